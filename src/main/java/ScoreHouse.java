@@ -477,7 +477,8 @@ public final class ScoreHouse {
     }
 
     private Sound requiredSound(int sound) {
-        requireIndex(sound, played().soundCount);
+        playing.renew(score);
+        requireIndex(sound, playing.soundCount);
         return playing.soundRow.get(sound);
     }
 
@@ -497,9 +498,10 @@ public final class ScoreHouse {
         Part part = parts[voice];
         if (part.edition != score.edition) {
             part.edition = score.edition;
+            playing.renew(score);
             part.layItems(score);
             part.breaking.breakItems(part.widths, part.itemCount, score.paperWidth);
-            part.timeBreaks(score, played());
+            part.timeBreaks(score, playing);
             part.paging.layPages(part.breaking.lineCount, score.pageRoom);
         }
         return part;
