@@ -119,7 +119,6 @@ public final class ScoreHouse {
 
     public int setPitch(int voice, int bar, int index, int pitch)
             throws IllegalArgumentException, IndexOutOfBoundsException, IllegalStateException {
-        requireVoice(voice);
         requireRange(pitch, 0, HIGHEST_PITCH);
         Event event = requiredEvent(voice, bar, index);
         if (!score.canBeWritten(voice, pitch)) {
@@ -146,7 +145,6 @@ public final class ScoreHouse {
 
     public int setMark(int voice, int bar, int index, int mark)
             throws IllegalArgumentException, IndexOutOfBoundsException {
-        requireVoice(voice);
         requireRange(mark, NONE, LOUDEST_MARK);
         Event event = requiredEvent(voice, bar, index);
         int before = event.mark;

@@ -27,7 +27,7 @@ final class Check {
         same(what, got ? 1 : 0, 0);
     }
 
-    /** The class must be just this one: the machine's own exceptions are below some of them. */
+    /** The class must be just this one, and thrown by ScoreHouse itself: not by the machine, not by the library. */
     void refused(String what, Class<? extends RuntimeException> due, Call call) {
         checks++;
         try {
@@ -36,8 +36,15 @@ final class Check {
         } catch (RuntimeException thrown) {
             if (thrown.getClass() != due) {
                 tell(what + " threw " + thrown + ", due is " + due.getSimpleName());
+            } else if (!isThrownByTheClass(thrown)) {
+                tell(what + " let the library throw " + thrown);
             }
         }
+    }
+
+    static boolean isThrownByTheClass(Throwable thrown) {
+        StackTraceElement[] calls = thrown.getStackTrace();
+        return calls.length > 0 && calls[0].getClassName().startsWith("ScoreHouse");
     }
 
     void badArgument(String what, Call call) {

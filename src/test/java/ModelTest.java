@@ -232,7 +232,8 @@ public final class ModelTest {
         try {
             return String.valueOf(method.invoke(object, given));
         } catch (InvocationTargetException thrown) {
-            return thrown.getCause().getClass().getName();
+            boolean isThrown = object instanceof Model || Check.isThrownByTheClass(thrown.getCause());
+            return (isThrown ? "" : "library: ") + thrown.getCause().getClass().getName();
         } catch (IllegalAccessException refused) {
             return refused.toString();
         }

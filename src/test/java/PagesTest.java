@@ -8,6 +8,7 @@ public final class PagesTest {
         pagesWithShortRests();
         pagesWithPhrases();
         pagesOfEqualFaults();
+        paperAtFirst();
         promise48PageOf();
         promises49And50Turns();
         turnsOverBlankPages();
@@ -133,6 +134,36 @@ public final class PagesTest {
         makeRest(later, 7);
         // Of 2, 3, 2, 2 and 2, 3, 3, 1 the latter; with 3 lines on page 0 or 1 a turn is too short.
         samePages(later, "full pages of those without a bad turn", 2, 3, 3, 1);
+        // 2500 + 400 + 900 is as much as 3000 + 400 + 400.
+        samePages(withLinesAndRests(17, 6, 0, 7), "fewer pages than with a blank one", 1, 4, 3, 6, 3);
+        // 400 + 900 + 3000 is as much as 2500 + 900 + 900.
+        samePages(withLinesAndRests(17, 6, 0, 3, 6), "as many pages with a blank one", 4, 3, 0, 6, 4);
+    }
+
+    private static void paperAtFirst() {
+        ScoreHouse house = new ScoreHouse();
+        for (int bar = 0; bar < 6; bar++) {
+            house.addBar(9, 2);
+            for (int event = 0; event < 3; event++) {
+                house.insert(0, bar, event, 60, 0, ScoreHouse.DOTTED);
+            }
+        }
+        CHECK.same("a line for each bar", house.lines(0), 6);
+        samePages(house, "room for four lines, and a rest is wanted", 0, 4, 2);
+        house.setPitch(0, 2, 2, 0);
+        house.setTempo(2, 240);
+        CHECK.same("the rest at its end", house.time(2) / 3, 1500);
+        samePages(house, "a rest of 1500 is enough", 3, 3);
+        house.setPaper(120, 4, 1501);
+        samePages(house, "more is wanted", 0, 4, 2);
+    }
+
+    private static ScoreHouse withLinesAndRests(int count, int room, int... rests) {
+        ScoreHouse house = withLines(count, room, 500);
+        for (int bar : rests) {
+            makeRest(house, bar);
+        }
+        return house;
     }
 
     private static void promise48PageOf() {
