@@ -1220,6 +1220,7 @@ public final class ScoreHouse {
         private static final int FAULT_OF_ROOM = 100;
         // A fault counts for more than all pages, as their number matters only among equal faults.
         private static final long PAGE = 1, FAULT = 100;
+        private static final long MORE_THAN_ALL = 1L << 60;
 
         final int[] lineCounts = new int[MOST_PAGES];
         private final int[] firstLines = new int[MOST_PAGES];
@@ -1274,7 +1275,7 @@ public final class ScoreHouse {
         private void weighPagesFrom(int line, int side, boolean isBehindBlank, int count, int room) {
             int here = state(line, side, isBehindBlank);
             int turnFault = hasTurn(line, side, isBehindBlank) ? breakFaults[line] : 0;
-            least[here] = Long.MAX_VALUE;
+            least[here] = MORE_THAN_ALL;
             // From the fullest page down, so that of equals the one with most lines stays.
             for (int lines = Math.min(room, count - line); lines > 0; lines--) {
                 int spare = line + lines < count ? room - lines : 0;
