@@ -23,14 +23,6 @@ public final class BarsEdgesTest {
         CHECK.end();
     }
 
-    private static ScoreHouse withBars(int count) {
-        ScoreHouse house = new ScoreHouse();
-        for (int bar = 0; bar < count; bar++) {
-            house.addBar(4, 4);
-        }
-        return house;
-    }
-
     /** "A new object: No bars." */
     private static void aNewObjectHasNoBars() {
         ScoreHouse house = new ScoreHouse();
@@ -88,12 +80,12 @@ public final class BarsEdgesTest {
     }
 
     private static void objectsHaveNothingInCommon() {
-        ScoreHouse one = withBars(2);
+        ScoreHouse one = Scores.withBars(2, 4, 4);
         one.insert(0, 0, 0, 60, 0, PLAIN);
         one.setTempo(0, 60);
         one.setPaper(40, 1, 0);
         one.transpose(0, 3);
-        ScoreHouse other = withBars(1);
+        ScoreHouse other = Scores.withBars(1, 4, 4);
         CHECK.same("bars of the other", other.bars(), 1);
         CHECK.same("events of the other", other.events(0, 0), 0);
         CHECK.same("tempo of the other", other.tempo(0), 120);
@@ -104,13 +96,13 @@ public final class BarsEdgesTest {
 
     /** "An object is used for at most 512 calls": the last one of them still answers. */
     private static void itIsUsedFor512Calls() {
-        ScoreHouse house = withBars(24);
+        ScoreHouse house = Scores.withBars(24, 4, 4);
         for (int call = 24; call < 511; call++) {
             CHECK.same("call " + call, house.setTempo(call % 24, 30 + call % 200),
                     call < 48 ? NONE : 30 + (call - 24) % 200);
         }
         CHECK.same("the 512th call", house.tempo(6), 30 + 510 % 200);
-        ScoreHouse asked = withBars(1);
+        ScoreHouse asked = Scores.withBars(1, 4, 4);
         asked.insert(0, 0, 0, 60, 1, PLAIN);
         asked.insert(0, 0, 1, 60, 1, PLAIN);
         for (int call = 3; call < 511; call += 2) {
@@ -177,7 +169,7 @@ public final class BarsEdgesTest {
 
     /** "its length is 96 * beats / unit ticks": 12 to 432. */
     private static void theLengthIs96TimesBeatsByUnit() {
-        ScoreHouse house = withBars(1);
+        ScoreHouse house = Scores.withBars(1, 4, 4);
         int[] units = {2, 4, 8};
         int[] ticks = {48, 24, 12};
         int before = 96;
@@ -197,7 +189,7 @@ public final class BarsEdgesTest {
 
     /** "if some voice has more ticks in it than it would have": just as many, and one more. */
     private static void aMetreHasRoomForWhatIsThere() {
-        ScoreHouse house = withBars(1);
+        ScoreHouse house = Scores.withBars(1, 4, 4);
         house.insert(0, 0, 0, 60, 1, PLAIN);
         house.insert(0, 0, 1, 60, 4, DOTTED);
         house.insert(0, 0, 2, 60, 5, PLAIN);
@@ -222,7 +214,7 @@ public final class BarsEdgesTest {
 
     private static void aMetreHasRoomForEachVoice() {
         for (int voice = 0; voice < 4; voice++) {
-            ScoreHouse house = withBars(3);
+            ScoreHouse house = Scores.withBars(3, 4, 4);
             house.insert(voice, 1, 0, 0, 2, PLAIN);
             CHECK.same("as much as voice " + voice + " has", house.setMetre(1, 1, 4), 96);
             CHECK.badState("less than voice " + voice + " has", () -> house.setMetre(1, 1, 8));
@@ -241,7 +233,7 @@ public final class BarsEdgesTest {
 
     /** "tempo: 30 to 240, or NONE" */
     private static void theTempoIs30To240() {
-        ScoreHouse house = withBars(24);
+        ScoreHouse house = Scores.withBars(24, 4, 4);
         for (int bar : new int[] {0, 11, 23}) {
             CHECK.same("none told", house.setTempo(bar, 30), NONE);
             CHECK.same("the slowest", house.tempo(bar), 30);
@@ -262,7 +254,7 @@ public final class BarsEdgesTest {
 
     /** "it holds from this bar on up to the next one at which one is told" */
     private static void theTempoHoldsUpToTheNextOne() {
-        ScoreHouse house = withBars(24);
+        ScoreHouse house = Scores.withBars(24, 4, 4);
         house.setTempo(3, 60);
         house.setTempo(20, 61);
         CHECK.same("ahead of it", house.tempo(2), 120);
@@ -282,7 +274,7 @@ public final class BarsEdgesTest {
 
     /** "ahead of the first one it is 120" */
     private static void aheadOfTheFirstTempoItIs120() {
-        ScoreHouse house = withBars(3);
+        ScoreHouse house = Scores.withBars(3, 4, 4);
         for (int bar = 0; bar < 3; bar++) {
             CHECK.same("none is told", house.tempo(bar), 120);
         }

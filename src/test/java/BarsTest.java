@@ -14,14 +14,6 @@ public final class BarsTest {
         CHECK.end();
     }
 
-    private static ScoreHouse withBars(int count) {
-        ScoreHouse house = new ScoreHouse();
-        for (int bar = 0; bar < count; bar++) {
-            house.addBar(4, 4);
-        }
-        return house;
-    }
-
     private static void promise1NewObject() {
         ScoreHouse house = new ScoreHouse();
         CHECK.same("bars of a new object", house.bars(), 0);
@@ -57,7 +49,7 @@ public final class BarsTest {
     }
 
     private static void promise3SetMetre() {
-        ScoreHouse house = withBars(2);
+        ScoreHouse house = Scores.withBars(2, 4, 4);
         CHECK.same("length before", house.setMetre(1, 3, 8), 96);
         CHECK.same("length before", house.setMetre(1, 9, 2), 36);
         CHECK.same("length now", house.length(1), 432);
@@ -79,7 +71,7 @@ public final class BarsTest {
     }
 
     private static void promise4SetTempo() {
-        ScoreHouse house = withBars(2);
+        ScoreHouse house = Scores.withBars(2, 4, 4);
         CHECK.same("none told before", house.setTempo(0, 30), ScoreHouse.NONE);
         CHECK.same("told before", house.setTempo(0, 240), 30);
         CHECK.same("told before", house.setTempo(0, ScoreHouse.NONE), 240);
@@ -119,7 +111,7 @@ public final class BarsTest {
     }
 
     private static void promise7Tempo() {
-        ScoreHouse house = withBars(5);
+        ScoreHouse house = Scores.withBars(5, 4, 4);
         house.setTempo(1, 60);
         house.setTempo(3, 240);
         int[] due = {120, 60, 60, 240, 240};

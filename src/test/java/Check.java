@@ -1,5 +1,5 @@
 /** Counts what is not as due, and ends with the exit code 1 if there was something. */
-final class Check {
+class Check {
     interface Call {
         void run();
     }

@@ -1,6 +1,6 @@
 /** The boundary cases of promises 36 and 43 to 45, a method for each sentence of the document that names one. */
 public final class LinesEdgesTest {
-    private static final Check CHECK = new Check("LinesEdgesTest");
+    private static final ScoreCheck CHECK = new ScoreCheck("LinesEdgesTest");
     private static final int PLAIN = ScoreHouse.PLAIN;
 
     public static void main(String[] args) {
@@ -33,16 +33,6 @@ public final class LinesEdgesTest {
         return house;
     }
 
-    private static void sameLines(ScoreHouse house, String what, int badness, int... firstItems) {
-        CHECK.same(what + ": lines", house.lines(0), firstItems.length);
-        for (int line = 0; line < Math.min(house.lines(0), firstItems.length); line++) {
-            CHECK.same(what + ": first item of " + line, house.firstItem(0, line), firstItems[line]);
-        }
-        CHECK.same(what + ": badness", house.badness(0), badness);
-        CHECK.notThere(what + ": the line behind", () -> house.firstItem(0, firstItems.length));
-        CHECK.notThere(what + ": the line -1", () -> house.firstItem(0, -1));
-    }
-
     private static int square(int number) {
         return number * number;
     }
@@ -51,13 +41,13 @@ public final class LinesEdgesTest {
     private static void theWidthIs40To400() {
         ScoreHouse house = withRests(1);
         house.setPaper(40, 4, 0);
-        sameLines(house, "40", square(20) / 4, 0);
+        CHECK.sameLines(house, "40", square(20) / 4, 0);
         CHECK.badArgument("39", () -> house.setPaper(39, 4, 0));
-        sameLines(house, "still 40", square(20) / 4, 0);
+        CHECK.sameLines(house, "still 40", square(20) / 4, 0);
         house.setPaper(400, 4, 0);
-        sameLines(house, "400", square(380) / 4, 0);
+        CHECK.sameLines(house, "400", square(380) / 4, 0);
         CHECK.badArgument("401", () -> house.setPaper(401, 4, 0));
-        sameLines(house, "still 400", square(380) / 4, 0);
+        CHECK.sameLines(house, "still 400", square(380) / 4, 0);
     }
 
     /** "lines: 1 to 6" */
@@ -95,17 +85,17 @@ public final class LinesEdgesTest {
 
     /** "The paper has a width, 120 at first": six rests are just as wide, seven are not. */
     private static void thePaperIs120WideAtFirst() {
-        sameLines(withRests(6), "120", 0, 0);
-        sameLines(withRests(7), "140", square(20) + square(80) / 4, 0, 5);
-        sameLines(withRests(5), "100", square(20) / 4, 0);
+        CHECK.sameLines(withRests(6), "120", 0, 0);
+        CHECK.sameLines(withRests(7), "140", square(20) + square(80) / 4, 0, 5);
+        CHECK.sameLines(withRests(5), "100", square(20) / 4, 0);
     }
 
     private static void eachLineHasOneItemOrMore() {
         ScoreHouse one = withRests(1);
-        sameLines(one, "one item", square(100) / 4, 0);
+        CHECK.sameLines(one, "one item", square(100) / 4, 0);
         ScoreHouse house = withRests(3);
         house.setPaper(40, 4, 0);
-        sameLines(house, "two and one", square(20) / 4, 0, 2);
+        CHECK.sameLines(house, "two and one", square(20) / 4, 0, 2);
         CHECK.badState("no line without bars", () -> new ScoreHouse().lines(0));
     }
 
@@ -133,22 +123,22 @@ public final class LinesEdgesTest {
         // Each 10 + 4 + 2 wide, and the first one 3 more: 387.
         ScoreHouse house = withFullBars(24, 1, 8, 3);
         house.setPaper(387, 4, 0);
-        sameLines(house, "24 items just as wide", 0, 0);
+        CHECK.sameLines(house, "24 items just as wide", 0, 0);
         house.setPaper(400, 4, 0);
-        sameLines(house, "24 items", square(13) / 4, 0);
+        CHECK.sameLines(house, "24 items", square(13) / 4, 0);
         house.setPaper(386, 4, 0);
-        sameLines(house, "wider by one", square(79) + square(306) / 4, 0, 19);
+        CHECK.sameLines(house, "wider by one", square(79) + square(306) / 4, 0, 19);
     }
 
     /** "several items only if their widths together are at most that of the paper" */
     private static void severalItemsAreAtMostAsWideAsThePaper() {
         ScoreHouse house = withRests(3);
         house.setPaper(60, 4, 0);
-        sameLines(house, "just as wide", 0, 0);
+        CHECK.sameLines(house, "just as wide", 0, 0);
         house.setPaper(59, 4, 0);
-        sameLines(house, "wider by one", square(19) + square(39) / 4, 0, 2);
+        CHECK.sameLines(house, "wider by one", square(19) + square(39) / 4, 0, 2);
         house.setPaper(61, 4, 0);
-        sameLines(house, "narrower by one", 0, 0);
+        CHECK.sameLines(house, "narrower by one", 0, 0);
     }
 
     /** "for the last line a quarter of that" */
@@ -157,7 +147,7 @@ public final class LinesEdgesTest {
         for (int narrower = 0; narrower < quarters.length; narrower++) {
             ScoreHouse house = withRests(3);
             house.setPaper(60 + narrower, 4, 0);
-            sameLines(house, "narrower by " + narrower, quarters[narrower], 0);
+            CHECK.sameLines(house, "narrower by " + narrower, quarters[narrower], 0);
         }
     }
 
@@ -170,7 +160,7 @@ public final class LinesEdgesTest {
             house.setMark(0, 1, 0, 1);
             // Bars of 32 and 25: both together are wider.
             house.setPaper(40 + narrower, 4, 0);
-            sameLines(house, "8 and " + narrower, square(8 + narrower) + square(15 + narrower) / 4, 0, 1);
+            CHECK.sameLines(house, "8 and " + narrower, square(8 + narrower) + square(15 + narrower) / 4, 0, 1);
         }
     }
 
@@ -190,18 +180,18 @@ public final class LinesEdgesTest {
     private static void aLineThatIsJustAsWide() {
         ScoreHouse house = withAWideBar();
         house.setPaper(41, 4, 0);
-        sameLines(house, "41 and 41", square(16) + square(19) / 4, 0, 1, 2);
+        CHECK.sameLines(house, "41 and 41", square(16) + square(19) / 4, 0, 1, 2);
         house.setPaper(42, 4, 0);
-        sameLines(house, "42 and 41", square(17) + 1 + square(20) / 4, 0, 1, 2);
+        CHECK.sameLines(house, "42 and 41", square(17) + 1 + square(20) / 4, 0, 1, 2);
     }
 
     /** "a line that is wider .. has 1000000, and the whole square of what it is wider" */
     private static void aLineThatIsWiderByOne() {
         ScoreHouse house = withAWideBar();
         house.setPaper(40, 4, 0);
-        sameLines(house, "40 and 41", square(15) + 1000001 + square(18) / 4, 0, 1, 2);
+        CHECK.sameLines(house, "40 and 41", square(15) + 1000001 + square(18) / 4, 0, 1, 2);
         house.setMark(0, 1, 3, 0);
-        sameLines(house, "40 and 46", square(15) + 1000036 + square(18) / 4, 0, 1, 2);
+        CHECK.sameLines(house, "40 and 46", square(15) + 1000036 + square(18) / 4, 0, 1, 2);
     }
 
     /** "also the last one" */
@@ -214,11 +204,11 @@ public final class LinesEdgesTest {
         house.setTempo(0, 60);
         // 3 + 4 + 10 + 4 * 6
         house.setPaper(41, 4, 0);
-        sameLines(house, "just as wide", 0, 0);
+        CHECK.sameLines(house, "just as wide", 0, 0);
         house.setPaper(40, 4, 0);
-        sameLines(house, "wider by 1", 1000001, 0);
+        CHECK.sameLines(house, "wider by 1", 1000001, 0);
         house.setMark(0, 0, 0, 5);
-        sameLines(house, "wider by 4", 1000016, 0);
+        CHECK.sameLines(house, "wider by 4", 1000016, 0);
     }
 
     private static void nothingIsPutBesideALineThatIsWider() {
@@ -230,11 +220,11 @@ public final class LinesEdgesTest {
         // 34 + 12 + 6 + 4
         CHECK.same("its width", house.itemWidth(0, 1), 56);
         house.setPaper(47, 4, 0);
-        sameLines(house, "one wider between", square(22) + 1000081 + square(25) / 4, 0, 1, 2);
+        CHECK.sameLines(house, "one wider between", square(22) + 1000081 + square(25) / 4, 0, 1, 2);
         house.setPaper(80, 4, 0);
-        sameLines(house, "25 and 56 are wider than 80, 78 are not", square(55) + 1, 0, 1);
+        CHECK.sameLines(house, "25 and 56 are wider than 80, 78 are not", square(55) + 1, 0, 1);
         house.setPaper(81, 4, 0);
-        sameLines(house, "25 and 56 are as wide as 81", square(59) / 4, 0, 2);
+        CHECK.sameLines(house, "25 and 56 are as wide as 81", square(59) / 4, 0, 2);
     }
 
     /** "The lines are those with which the badness of all together is least": not the fullest ones. */
@@ -242,11 +232,11 @@ public final class LinesEdgesTest {
         ScoreHouse house = withRests(5);
         house.setPaper(80, 4, 0);
         // Of 4 and 1: 900 of a quarter; of 3 and 2: 400 and 400.
-        sameLines(house, "3 and 2", square(20) + square(40) / 4, 0, 3);
+        CHECK.sameLines(house, "3 and 2", square(20) + square(40) / 4, 0, 3);
         ScoreHouse four = withRests(4);
         four.setPaper(79, 4, 0);
         // Of 3 and 1: 361 and 870; of 2 and 2: 1521 and 380.
-        sameLines(four, "3 and 1", square(19) + square(59) / 4, 0, 3);
+        CHECK.sameLines(four, "3 and 1", square(19) + square(59) / 4, 0, 3);
         ScoreHouse bars = withRests(5);
         for (int event = 0; event < 4; event++) {
             bars.insert(0, 4, event, 60, 3, PLAIN);
@@ -254,7 +244,7 @@ public final class LinesEdgesTest {
         }
         // Four rests, and a bar of 3 + 10 + 24 + 12 + 6, which has a line of its own.
         bars.setPaper(60, 4, 0);
-        sameLines(bars, "2 and 2, not 3 and 1", 2 * square(20) + square(5) / 4, 0, 2, 4);
+        CHECK.sameLines(bars, "2 and 2, not 3 and 1", 2 * square(20) + square(5) / 4, 0, 2, 4);
     }
 
     /** Rests, and a bar that is so wide that it has a line of its own on paper of 60. */
@@ -273,14 +263,14 @@ public final class LinesEdgesTest {
     /** "of several the ones with most items in the first line in which they differ" */
     private static void ofSeveralTheMostItemsInTheFirstLine() {
         // 5 rests are 3 and 2, or 2 and 3; 7 are 3, 2 and 2, or 2, 3 and 2, or 2, 2 and 3. The bar is 57 wide.
-        sameLines(withRestsAndAWideBar(5), "5 rests", square(20) + square(3) / 4, 0, 3, 5);
-        sameLines(withRestsAndAWideBar(7), "7 rests", 2 * square(20) + square(3) / 4, 0, 3, 5, 7);
+        CHECK.sameLines(withRestsAndAWideBar(5), "5 rests", square(20) + square(3) / 4, 0, 3, 5);
+        CHECK.sameLines(withRestsAndAWideBar(7), "7 rests", 2 * square(20) + square(3) / 4, 0, 3, 5, 7);
     }
 
     private static void ofSeveralTheMostItemsInALaterLine() {
         // 8 rests are 3, 3 and 2, or 3, 2 and 3, or 2, 3 and 3. The bar is 45 wide.
-        sameLines(withRestsAndAWideBar(8), "8 rests", square(20) + square(15) / 4, 0, 3, 6, 8);
+        CHECK.sameLines(withRestsAndAWideBar(8), "8 rests", square(20) + square(15) / 4, 0, 3, 6, 8);
         // 11 rests are four lines, one of them with 2.
-        sameLines(withRestsAndAWideBar(11), "11 rests", square(20) + square(3) / 4, 0, 3, 6, 9, 11);
+        CHECK.sameLines(withRestsAndAWideBar(11), "11 rests", square(20) + square(3) / 4, 0, 3, 6, 9, 11);
     }
 }

@@ -1,6 +1,6 @@
 /** Promises 46 to 55. Each bar of these scores is a line of its own, so lines and bars have the same numbers. */
 public final class PagesTest {
-    private static final Check CHECK = new Check("PagesTest");
+    private static final ScoreCheck CHECK = new ScoreCheck("PagesTest");
     private static final int PLAIN = ScoreHouse.PLAIN;
 
     public static void main(String[] args) {
@@ -20,49 +20,13 @@ public final class PagesTest {
         CHECK.end();
     }
 
-    /** Bars of 1 second, all full of a note of the voice 0 for as long as it sounds. */
-    private static ScoreHouse withLines(int count, int room, int rest) {
-        ScoreHouse house = new ScoreHouse();
-        for (int bar = 0; bar < count; bar++) {
-            house.addBar(2, 4);
-            house.insert(0, bar, 0, 60, 1, PLAIN);
-        }
-        house.setPaper(40, room, rest);
-        CHECK.same("a line for each bar", house.lines(0), count);
-        return house;
-    }
-
-    /** A quarter of a second of sound, and the rest of the bar is one. */
-    private static void makeRest(ScoreHouse house, int bar) {
-        house.remove(0, bar, 0);
-        house.insert(0, bar, 0, 60, 3, PLAIN);
-        house.insert(0, bar, 1, 0, 3, PLAIN);
-        house.insert(0, bar, 2, 0, 2, PLAIN);
-    }
-
-    private static void samePages(ScoreHouse house, String what, int... lines) {
-        CHECK.same(what + ": pages", house.pages(0), lines.length);
-        for (int page = 0; page < Math.min(house.pages(0), lines.length); page++) {
-            CHECK.same(what + ": lines of page " + page, house.pageLines(0, page), lines[page]);
-        }
-        CHECK.notThere(what + ": page behind", () -> house.pageLines(0, lines.length));
-        CHECK.notThere(what + ": page -1", () -> house.pageLines(0, -1));
-    }
-
-    private static void sameTurns(ScoreHouse house, String what, int... bars) {
-        CHECK.same(what + ": turns", house.pageTurns(0), bars.length);
-        for (int turn = 0; turn < Math.min(house.pageTurns(0), bars.length); turn++) {
-            CHECK.same(what + ": bar of turn " + turn, house.turnBar(0, turn), bars[turn]);
-        }
-    }
-
     private static void promises46And47Pages() {
-        samePages(withLines(1, 4, 0), "one line", 1);
-        samePages(withLines(4, 4, 0), "a full page", 4);
-        samePages(withLines(5, 4, 0), "two pages", 4, 1);
-        samePages(withLines(12, 4, 0), "three full pages", 4, 4, 4);
-        samePages(withLines(24, 6, 0), "four full pages", 6, 6, 6, 6);
-        samePages(withLines(3, 1, 0), "pages of one line", 1, 1, 1);
+        CHECK.samePages(Scores.withLines(1, 4, 0), "one line", 1);
+        CHECK.samePages(Scores.withLines(4, 4, 0), "a full page", 4);
+        CHECK.samePages(Scores.withLines(5, 4, 0), "two pages", 4, 1);
+        CHECK.samePages(Scores.withLines(12, 4, 0), "three full pages", 4, 4, 4);
+        CHECK.samePages(Scores.withLines(24, 6, 0), "four full pages", 6, 6, 6, 6);
+        CHECK.samePages(Scores.withLines(3, 1, 0), "pages of one line", 1, 1, 1);
         ScoreHouse first = new ScoreHouse();
         for (int bar = 0; bar < 5; bar++) {
             first.addBar(2 + bar % 2, 4);
@@ -75,22 +39,22 @@ public final class PagesTest {
     }
 
     private static void pagesWithShortRests() {
-        ScoreHouse house = withLines(6, 4, 500);
+        ScoreHouse house = Scores.withLines(6, 4, 500);
         // A page 0 of blank is 3000, less than the 20000 of a turn on a short rest.
-        samePages(house, "a blank page 0", 0, 4, 2);
-        makeRest(house, 1);
-        samePages(house, "a turn at the rest", 2, 4);
+        CHECK.samePages(house, "a blank page 0", 0, 4, 2);
+        Scores.makeRest(house, 1);
+        CHECK.samePages(house, "a turn at the rest", 2, 4);
         house.setPaper(40, 4, 751);
-        samePages(house, "a longer rest is wanted", 0, 4, 2);
+        CHECK.samePages(house, "a longer rest is wanted", 0, 4, 2);
         house.setPaper(40, 4, 750);
-        samePages(house, "just as long a rest is wanted", 2, 4);
-        makeRest(house, 2);
+        CHECK.samePages(house, "just as long a rest is wanted", 2, 4);
+        Scores.makeRest(house, 2);
         // 100 times 1 squared is better than 100 times 2 squared.
-        samePages(house, "the fuller one", 3, 3);
-        ScoreHouse longer = withLines(13, 4, 500);
-        makeRest(longer, 3);
-        makeRest(longer, 11);
-        samePages(longer, "two turns at rests", 4, 4, 4, 1);
+        CHECK.samePages(house, "the fuller one", 3, 3);
+        ScoreHouse longer = Scores.withLines(13, 4, 500);
+        Scores.makeRest(longer, 3);
+        Scores.makeRest(longer, 11);
+        CHECK.samePages(longer, "two turns at rests", 4, 4, 4, 1);
         longer.setPitch(0, 11, 0, 0);
         longer.setPitch(0, 11, 1, 60);
         longer.setPitch(0, 11, 2, 60);
@@ -99,45 +63,45 @@ public final class PagesTest {
     }
 
     private static void pagesWithPhrases() {
-        ScoreHouse house = withLines(4, 1, 20000);
+        ScoreHouse house = Scores.withLines(4, 1, 20000);
         // All rests are too short: turns behind bars 0 and 2, or behind bar 1 with a blank page 0.
-        samePages(house, "the fewest short turns", 0, 1, 1, 1, 1);
+        CHECK.samePages(house, "the fewest short turns", 0, 1, 1, 1, 1);
         house.addPhrase(0, 1, 0, 2, 0);
-        samePages(house, "a phrase over bars 1 and 2", 1, 1, 1, 1);
+        CHECK.samePages(house, "a phrase over bars 1 and 2", 1, 1, 1, 1);
         house.allowTurn(0, 1, true);
-        samePages(house, "allowed", 0, 1, 1, 1, 1);
+        CHECK.samePages(house, "allowed", 0, 1, 1, 1, 1);
         house.allowTurn(0, 1, false);
         house.allowTurn(0, 2, true);
-        samePages(house, "allowed behind another bar", 1, 1, 1, 1);
+        CHECK.samePages(house, "allowed behind another bar", 1, 1, 1, 1);
         house.dropPhrase(0);
-        samePages(house, "dropped", 0, 1, 1, 1, 1);
+        CHECK.samePages(house, "dropped", 0, 1, 1, 1, 1);
         house.insert(1, 0, 0, 60, 1, PLAIN);
         house.insert(1, 3, 0, 60, 1, PLAIN);
         house.addPhrase(1, 0, 0, 3, 0);
-        samePages(house, "of another voice", 0, 1, 1, 1, 1);
+        CHECK.samePages(house, "of another voice", 0, 1, 1, 1, 1);
     }
 
     private static void pagesOfEqualFaults() {
-        ScoreHouse house = withLines(4, 3, 0);
+        ScoreHouse house = Scores.withLines(4, 3, 0);
         // 3 and 1: the last page has no fault; 2 and 2 has 100.
-        samePages(house, "the last page is not weighed", 3, 1);
-        ScoreHouse three = withLines(9, 4, 0);
+        CHECK.samePages(house, "the last page is not weighed", 3, 1);
+        ScoreHouse three = Scores.withLines(9, 4, 0);
         // 4, 4 and 1 have no fault.
-        samePages(three, "full ones first", 4, 4, 1);
-        ScoreHouse equal = withLines(7, 4, 500);
-        makeRest(equal, 2);
-        makeRest(equal, 3);
-        samePages(equal, "most lines on the first page", 4, 3);
-        ScoreHouse later = withLines(9, 3, 500);
-        makeRest(later, 1);
-        makeRest(later, 6);
-        makeRest(later, 7);
+        CHECK.samePages(three, "full ones first", 4, 4, 1);
+        ScoreHouse equal = Scores.withLines(7, 4, 500);
+        Scores.makeRest(equal, 2);
+        Scores.makeRest(equal, 3);
+        CHECK.samePages(equal, "most lines on the first page", 4, 3);
+        ScoreHouse later = Scores.withLines(9, 3, 500);
+        Scores.makeRest(later, 1);
+        Scores.makeRest(later, 6);
+        Scores.makeRest(later, 7);
         // Of 2, 3, 2, 2 and 2, 3, 3, 1 the latter; with 3 lines on page 0 or 1 a turn is too short.
-        samePages(later, "full pages of those without a bad turn", 2, 3, 3, 1);
+        CHECK.samePages(later, "full pages of those without a bad turn", 2, 3, 3, 1);
         // 2500 + 400 + 900 is as much as 3000 + 400 + 400.
-        samePages(withLinesAndRests(17, 6, 0, 7), "fewer pages than with a blank one", 1, 4, 3, 6, 3);
+        CHECK.samePages(withLinesAndRests(17, 6, 0, 7), "fewer pages than with a blank one", 1, 4, 3, 6, 3);
         // 400 + 900 + 3000 is as much as 2500 + 900 + 900.
-        samePages(withLinesAndRests(17, 6, 0, 3, 6), "as many pages with a blank one", 4, 3, 0, 6, 4);
+        CHECK.samePages(withLinesAndRests(17, 6, 0, 3, 6), "as many pages with a blank one", 4, 3, 0, 6, 4);
     }
 
     private static void paperAtFirst() {
@@ -149,25 +113,25 @@ public final class PagesTest {
             }
         }
         CHECK.same("a line for each bar", house.lines(0), 6);
-        samePages(house, "room for four lines, and a rest is wanted", 0, 4, 2);
+        CHECK.samePages(house, "room for four lines, and a rest is wanted", 0, 4, 2);
         house.setPitch(0, 2, 2, 0);
         house.setTempo(2, 240);
         CHECK.same("the rest at its end", house.time(2) / 3, 1500);
-        samePages(house, "a rest of 1500 is enough", 3, 3);
+        CHECK.samePages(house, "a rest of 1500 is enough", 3, 3);
         house.setPaper(120, 4, 1501);
-        samePages(house, "more is wanted", 0, 4, 2);
+        CHECK.samePages(house, "more is wanted", 0, 4, 2);
     }
 
     private static ScoreHouse withLinesAndRests(int count, int room, int... rests) {
-        ScoreHouse house = withLines(count, room, 500);
+        ScoreHouse house = Scores.withLines(count, room, 500);
         for (int bar : rests) {
-            makeRest(house, bar);
+            Scores.makeRest(house, bar);
         }
         return house;
     }
 
     private static void promise48PageOf() {
-        ScoreHouse house = withLines(6, 4, 500);
+        ScoreHouse house = Scores.withLines(6, 4, 500);
         int[] due = {1, 1, 1, 1, 2, 2};
         for (int bar = 0; bar < due.length; bar++) {
             CHECK.same("page of bar " + bar, house.pageOf(0, bar), due[bar]);
@@ -186,47 +150,47 @@ public final class PagesTest {
     }
 
     private static void promises49And50Turns() {
-        sameTurns(withLines(4, 4, 0), "one page");
-        sameTurns(withLines(8, 4, 0), "two pages", 3);
-        sameTurns(withLines(12, 4, 0), "three pages", 3);
-        sameTurns(withLines(16, 4, 0), "four pages", 3, 11);
-        ScoreHouse house = withLines(6, 4, 500);
-        sameTurns(house, "two pages behind a blank one");
+        CHECK.sameTurns(Scores.withLines(4, 4, 0), "one page");
+        CHECK.sameTurns(Scores.withLines(8, 4, 0), "two pages", 3);
+        CHECK.sameTurns(Scores.withLines(12, 4, 0), "three pages", 3);
+        CHECK.sameTurns(Scores.withLines(16, 4, 0), "four pages", 3, 11);
+        ScoreHouse house = Scores.withLines(6, 4, 500);
+        CHECK.sameTurns(house, "two pages behind a blank one");
         CHECK.notThere("turn 0", () -> house.turnBar(0, 0));
-        makeRest(house, 1);
-        sameTurns(house, "at the rest", 1);
+        Scores.makeRest(house, 1);
+        CHECK.sameTurns(house, "at the rest", 1);
         CHECK.notThere("turn 1", () -> house.turnBar(0, 1));
         CHECK.notThere("turn -1", () -> house.turnBar(0, -1));
     }
 
     private static void turnsOverBlankPages() {
-        ScoreHouse house = withLines(4, 1, 500);
-        makeRest(house, 1);
+        ScoreHouse house = Scores.withLines(4, 1, 500);
+        Scores.makeRest(house, 1);
         // Page 0 on the right; it is left blank to turn behind bar 1.
-        samePages(house, "turned behind bar 1", 0, 1, 1, 1, 1);
-        sameTurns(house, "turned behind bar 1", 1);
-        ScoreHouse blank = withLines(3, 1, 500);
-        makeRest(blank, 0);
-        makeRest(blank, 1);
-        samePages(blank, "no blank is wanted", 1, 1, 1);
-        ScoreHouse between = withLines(5, 1, 500);
-        makeRest(between, 0);
-        makeRest(between, 1);
-        makeRest(between, 3);
+        CHECK.samePages(house, "turned behind bar 1", 0, 1, 1, 1, 1);
+        CHECK.sameTurns(house, "turned behind bar 1", 1);
+        ScoreHouse blank = Scores.withLines(3, 1, 500);
+        Scores.makeRest(blank, 0);
+        Scores.makeRest(blank, 1);
+        CHECK.samePages(blank, "no blank is wanted", 1, 1, 1);
+        ScoreHouse between = Scores.withLines(5, 1, 500);
+        Scores.makeRest(between, 0);
+        Scores.makeRest(between, 1);
+        Scores.makeRest(between, 3);
         // Without a blank page it is turned behind 2, too short. A blank page 0 would be as good as one behind line 1.
-        samePages(between, "more lines on the page 0", 1, 1, 0, 1, 1, 1);
-        sameTurns(between, "more lines on the page 0", 0, 1, 3);
-        ScoreHouse within = withLines(6, 1, 500);
-        makeRest(within, 0);
-        makeRest(within, 2);
-        makeRest(within, 3);
+        CHECK.samePages(between, "more lines on the page 0", 1, 1, 0, 1, 1, 1);
+        CHECK.sameTurns(between, "more lines on the page 0", 0, 1, 3);
+        ScoreHouse within = Scores.withLines(6, 1, 500);
+        Scores.makeRest(within, 0);
+        Scores.makeRest(within, 2);
+        Scores.makeRest(within, 3);
         // Turns behind 0, 2 and 4, of which 4 is short; so a blank page is put behind line 3 and turned behind it.
-        samePages(within, "a blank page within", 1, 1, 1, 1, 0, 1, 1);
-        sameTurns(within, "a blank page within", 0, 2, 3);
+        CHECK.samePages(within, "a blank page within", 1, 1, 1, 1, 0, 1, 1);
+        CHECK.sameTurns(within, "a blank page within", 0, 2, 3);
     }
 
     private static void promise51TurnTime() {
-        ScoreHouse house = withLines(8, 4, 0);
+        ScoreHouse house = Scores.withLines(8, 4, 0);
         CHECK.same("when bar 4 begins", house.turnTime(0, 0), 4000);
         house.addRepeat(1, 3, 1);
         CHECK.same("when bar 4 is played for the first time", house.turnTime(0, 0), 6000);
@@ -240,9 +204,9 @@ public final class PagesTest {
     }
 
     private static void promise52TurnRest() {
-        ScoreHouse house = withLines(8, 4, 0);
+        ScoreHouse house = Scores.withLines(8, 4, 0);
         CHECK.same("none", house.turnRest(0, 0), 0);
-        makeRest(house, 3);
+        Scores.makeRest(house, 3);
         CHECK.same("from the end ahead to what begins then", house.turnRest(0, 0), 750);
         house.setPitch(0, 4, 0, 0);
         house.setPitch(0, 5, 0, 0);
@@ -258,22 +222,22 @@ public final class PagesTest {
         CHECK.same("sounds of other voices do not matter", house.turnRest(0, 0), 8000);
         house.addRepeat(0, 3, 3);
         CHECK.same("with a bar once more", house.turnRest(0, 0), 9000);
-        ScoreHouse tied = withLines(8, 4, 0);
+        ScoreHouse tied = Scores.withLines(8, 4, 0);
         tied.setTie(0, 3, 0, true);
         CHECK.same("none within a sound", tied.turnRest(0, 0), 0);
         tied.setPaper(40, 4, 1);
         CHECK.same("so it is too short", tied.pageLines(0, 0), 0);
         CHECK.notThere("turn 1", () -> house.turnRest(0, 1));
         CHECK.notThere("turn -1", () -> house.turnRest(0, -1));
-        ScoreHouse repeated = withLines(4, 2, 0);
-        makeRest(repeated, 0);
+        ScoreHouse repeated = Scores.withLines(4, 2, 0);
+        Scores.makeRest(repeated, 0);
         repeated.addRepeat(0, 1, 1);
         CHECK.same("timed behind the bar played once more", repeated.turnTime(0, 0), 3000);
         CHECK.same("the rest of what was played once more", repeated.turnRest(0, 0), 750);
     }
 
     private static void promise53BadTurns() {
-        ScoreHouse house = withLines(3, 1, 0);
+        ScoreHouse house = Scores.withLines(3, 1, 0);
         CHECK.same("a rest of 0 is as wanted", house.badTurns(0), 0);
         house.setPaper(40, 1, 1);
         // The page 0 left blank, there is one turn, too.
@@ -282,7 +246,7 @@ public final class PagesTest {
         house.setPaper(40, 1, 0);
         house.addPhrase(0, 0, 0, 1, 0);
         CHECK.same("a blank page keeps it out of the phrase", house.badTurns(0), 0);
-        samePages(house, "kept out of the phrase", 0, 1, 1, 1);
+        CHECK.samePages(house, "kept out of the phrase", 0, 1, 1, 1);
         house.addPhrase(0, 1, 0, 2, 0);
         CHECK.same("in one of two phrases", house.badTurns(0), 1);
         house.setPaper(40, 1, 20000);
@@ -293,22 +257,22 @@ public final class PagesTest {
         house.setPaper(40, 1, 0);
         CHECK.same("allowed", house.badTurns(0), 0);
         CHECK.same("where it is allowed", house.turnBar(0, 0), 0);
-        ScoreHouse two = withLines(2, 1, 0);
+        ScoreHouse two = Scores.withLines(2, 1, 0);
         two.remove(0, 0, 0);
         two.insert(0, 0, 0, 60, 2, PLAIN);
         two.insert(0, 0, 1, 60, 2, PLAIN);
         two.addPhrase(0, 0, 0, 0, 1);
-        samePages(two, "a phrase that ends in the bar", 1, 1);
+        CHECK.samePages(two, "a phrase that ends in the bar", 1, 1);
         CHECK.same("a phrase that ends in the bar", two.badTurns(0), 0);
     }
 
     private static void promises54And55Sheets() {
         int[] sheets = {1, 1, 1, 1, 2, 2, 2, 2, 3};
         for (int pages = 1; pages <= sheets.length; pages++) {
-            ScoreHouse house = withLines(pages, 1, 0);
+            ScoreHouse house = Scores.withLines(pages, 1, 0);
             CHECK.same("sheets of " + pages + " pages", house.sheets(0), sheets[pages - 1]);
         }
-        ScoreHouse house = withLines(9, 1, 0);
+        ScoreHouse house = Scores.withLines(9, 1, 0);
         int[][] due = {{11, 0, 1, 10}, {9, 2, 3, 8}, {7, 4, 5, 6}};
         for (int sheet = 0; sheet < due.length; sheet++) {
             CHECK.same("front left " + sheet, house.sheetPage(0, sheet, true, true), due[sheet][0]);
@@ -318,13 +282,13 @@ public final class PagesTest {
         }
         CHECK.notThere("sheet 3", () -> house.sheetPage(0, 3, true, true));
         CHECK.notThere("sheet -1", () -> house.sheetPage(0, -1, false, false));
-        ScoreHouse blank = withLines(4, 1, 20000);
+        ScoreHouse blank = Scores.withLines(4, 1, 20000);
         CHECK.same("the blank page 0 counts", blank.sheets(0), 2);
         CHECK.same("its last page", blank.sheetPage(0, 0, true, true), 7);
     }
 
     private static void refusedOfAllParts() {
-        ScoreHouse house = withLines(2, 1, 0);
+        ScoreHouse house = Scores.withLines(2, 1, 0);
         house.insert(1, 1, 0, 60, 2, PLAIN);
         CHECK.badState("pages", () -> house.pages(1));
         CHECK.badState("pageLines", () -> house.pageLines(1, 9));

@@ -1,6 +1,6 @@
 /** The boundary cases of promises 36 to 42, a method for each sentence of the document that names one. */
 public final class PartsEdgesTest {
-    private static final Check CHECK = new Check("PartsEdgesTest");
+    private static final ScoreCheck CHECK = new ScoreCheck("PartsEdgesTest");
     private static final int PLAIN = ScoreHouse.PLAIN, DOTTED = ScoreHouse.DOTTED, TRIPLET = ScoreHouse.TRIPLET;
     private static final int BAR = ScoreHouse.BAR, REST = ScoreHouse.REST, CUE = ScoreHouse.CUE;
     private static final int NONE = ScoreHouse.NONE;
@@ -40,43 +40,12 @@ public final class PartsEdgesTest {
         CHECK.end();
     }
 
-    /** Bars of 2 quarters. */
-    private static ScoreHouse withBars(int count) {
-        ScoreHouse house = new ScoreHouse();
-        for (int bar = 0; bar < count; bar++) {
-            house.addBar(2, 4);
-        }
-        return house;
-    }
-
-    private static void fillBar(ScoreHouse house, int voice, int bar) {
-        house.insert(voice, bar, 0, 60, 1, PLAIN);
-    }
-
     private static int[] item(int kind, int bar, int bars) {
         return new int[] {kind, bar, bars, NONE};
     }
 
     private static int[] cue(int bar, int voice) {
         return new int[] {CUE, bar, 1, voice};
-    }
-
-    /** Each item is told by its kind, first bar, bars and cue. */
-    private static void sameItems(ScoreHouse house, String what, int voice, int[]... items) {
-        CHECK.same(what + ": items", house.items(voice), items.length);
-        for (int item = 0; item < Math.min(house.items(voice), items.length); item++) {
-            CHECK.same(what + ": kind of " + item, house.itemKind(voice, item), items[item][0]);
-            CHECK.same(what + ": bar of " + item, house.itemBar(voice, item), items[item][1]);
-            CHECK.same(what + ": bars of " + item, house.itemBars(voice, item), items[item][2]);
-            CHECK.same(what + ": cue of " + item, house.cue(voice, item), items[item][3]);
-        }
-        for (int item : new int[] {-1, items.length}) {
-            CHECK.notThere(what + ": kind of " + item, () -> house.itemKind(voice, item));
-            CHECK.notThere(what + ": bar of " + item, () -> house.itemBar(voice, item));
-            CHECK.notThere(what + ": bars of " + item, () -> house.itemBars(voice, item));
-            CHECK.notThere(what + ": cue of " + item, () -> house.cue(voice, item));
-            CHECK.notThere(what + ": width of " + item, () -> house.itemWidth(voice, item));
-        }
     }
 
     private static void notDrawn(ScoreHouse house, String what, int voice) {
@@ -90,7 +59,7 @@ public final class PartsEdgesTest {
     /** "if .. all bars are right in this voice": the first one, one between, the last one. */
     private static void aPartIsDrawnIfAllItsBarsAreRight() {
         for (int bar : new int[] {0, 11, 23}) {
-            ScoreHouse house = withBars(24);
+            ScoreHouse house = Scores.withBars(24, 2, 4);
             house.insert(2, bar, 0, 60, 2, PLAIN);
             notDrawn(house, "half of bar " + bar, 2);
             house.insert(2, bar, 1, 60, 3, DOTTED);
@@ -111,7 +80,7 @@ public final class PartsEdgesTest {
     }
 
     private static void aPartIsNotDrawnIfItsTripletsAreWrong() {
-        ScoreHouse house = withBars(2);
+        ScoreHouse house = Scores.withBars(2, 2, 4);
         house.insert(0, 1, 0, 60, 5, TRIPLET);
         house.insert(0, 1, 1, 60, 2, PLAIN);
         house.insert(0, 1, 2, 60, 3, DOTTED);
@@ -124,60 +93,60 @@ public final class PartsEdgesTest {
     }
 
     private static void whatOtherVoicesHaveDoesNotMatter() {
-        ScoreHouse house = withBars(2);
+        ScoreHouse house = Scores.withBars(2, 2, 4);
         for (int voice = 0; voice < 3; voice++) {
             house.insert(voice, voice % 2, 0, 60, 5, TRIPLET);
             notDrawn(house, "a voice that is not right", voice);
         }
-        sameItems(house, "the voice 3", 3, item(REST, 0, 2));
+        CHECK.sameItems(house, "the voice 3", 3, item(REST, 0, 2));
         house.insert(3, 0, 0, 60, 5, PLAIN);
         notDrawn(house, "the voice 3 now", 3);
         house.remove(1, 1, 0);
-        sameItems(house, "the voice 1 again", 1, item(REST, 0, 2));
+        CHECK.sameItems(house, "the voice 1 again", 1, item(REST, 0, 2));
     }
 
     private static void asFewAndAsManyItemsAsThereCanBe() {
-        ScoreHouse house = withBars(1);
-        sameItems(house, "an empty bar", 0, item(REST, 0, 1));
-        fillBar(house, 0, 0);
-        sameItems(house, "a bar", 0, item(BAR, 0, 1));
-        ScoreHouse most = withBars(24);
-        sameItems(most, "24 empty bars", 0, item(REST, 0, 24));
+        ScoreHouse house = Scores.withBars(1, 2, 4);
+        CHECK.sameItems(house, "an empty bar", 0, item(REST, 0, 1));
+        Scores.fillBar(house, 0, 0);
+        CHECK.sameItems(house, "a bar", 0, item(BAR, 0, 1));
+        ScoreHouse most = Scores.withBars(24, 2, 4);
+        CHECK.sameItems(most, "24 empty bars", 0, item(REST, 0, 24));
         int[][] all = new int[24][];
         for (int bar = 0; bar < 24; bar++) {
-            fillBar(most, 0, bar);
+            Scores.fillBar(most, 0, bar);
             all[bar] = item(BAR, bar, 1);
         }
-        sameItems(most, "24 bars", 0, all);
+        CHECK.sameItems(most, "24 bars", 0, all);
         for (int bar = 0; bar < 24; bar++) {
             most.setTempo(bar, 100);
             all[bar] = item(REST, bar, 1);
         }
-        sameItems(most, "24 rests", 1, all);
+        CHECK.sameItems(most, "24 rests", 1, all);
     }
 
     /** "A bar that is not empty is an item": one of rests alone too. */
     private static void aBarThatIsNotEmptyIsAnItem() {
-        ScoreHouse house = withBars(3);
+        ScoreHouse house = Scores.withBars(3, 2, 4);
         for (int bar = 0; bar < 3; bar++) {
             house.insert(0, bar, 0, 0, 1, PLAIN);
         }
-        sameItems(house, "bars of rests", 0, item(BAR, 0, 1), item(BAR, 1, 1), item(BAR, 2, 1));
+        CHECK.sameItems(house, "bars of rests", 0, item(BAR, 0, 1), item(BAR, 1, 1), item(BAR, 2, 1));
         house.remove(0, 1, 0);
-        sameItems(house, "one is empty", 0, item(BAR, 0, 1), item(REST, 1, 1), item(BAR, 2, 1));
+        CHECK.sameItems(house, "one is empty", 0, item(BAR, 0, 1), item(REST, 1, 1), item(BAR, 2, 1));
     }
 
     /** "Empty bars one behind the other are joined to an item" */
     private static void emptyBarsAreJoinedToAnItem() {
-        ScoreHouse house = withBars(24);
-        fillBar(house, 0, 1);
-        fillBar(house, 0, 22);
-        sameItems(house, "one, 20 and one", 0,
+        ScoreHouse house = Scores.withBars(24, 2, 4);
+        Scores.fillBar(house, 0, 1);
+        Scores.fillBar(house, 0, 22);
+        CHECK.sameItems(house, "one, 20 and one", 0,
                 item(REST, 0, 1), item(BAR, 1, 1), item(REST, 2, 20), item(BAR, 22, 1), item(REST, 23, 1));
         house.remove(0, 1, 0);
-        sameItems(house, "22 and one", 0, item(REST, 0, 22), item(BAR, 22, 1), item(REST, 23, 1));
+        CHECK.sameItems(house, "22 and one", 0, item(REST, 0, 22), item(BAR, 22, 1), item(REST, 23, 1));
         house.remove(0, 22, 0);
-        sameItems(house, "24", 0, item(REST, 0, 24));
+        CHECK.sameItems(house, "24", 0, item(REST, 0, 24));
     }
 
     /** Bars that are joined, but for a new rest at each of these. */
@@ -187,12 +156,12 @@ public final class PartsEdgesTest {
             int from = i == 0 ? 0 : newOnes[i - 1];
             items[i] = item(REST, from, (i == newOnes.length ? house.bars() : newOnes[i]) - from);
         }
-        sameItems(house, what, 0, items);
+        CHECK.sameItems(house, what, 0, items);
     }
 
     /** "if its metre is not that of the bar ahead of it (in beats or unit)" */
     private static void aNewRestIfTheMetreIsAnother() {
-        ScoreHouse house = withBars(24);
+        ScoreHouse house = Scores.withBars(24, 2, 4);
         house.setMetre(0, 3, 4);
         sameRests(house, "other beats at bar 0", 1);
         house.setMetre(0, 2, 8);
@@ -211,7 +180,7 @@ public final class PartsEdgesTest {
 
     /** "if a tempo is told at it" */
     private static void aNewRestIfATempoIsTold() {
-        ScoreHouse house = withBars(24);
+        ScoreHouse house = Scores.withBars(24, 2, 4);
         house.setTempo(0, 240);
         sameRests(house, "at bar 0");
         house.setTempo(1, 240);
@@ -224,7 +193,7 @@ public final class PartsEdgesTest {
 
     /** "if a repeat begins with it" */
     private static void aNewRestIfARepeatBegins() {
-        ScoreHouse house = withBars(24);
+        ScoreHouse house = Scores.withBars(24, 2, 4);
         house.addRepeat(0, 23, 0);
         sameRests(house, "of all bars");
         house.dropRepeat(0);
@@ -239,7 +208,7 @@ public final class PartsEdgesTest {
 
     /** "if a repeat ends with the bar ahead of it" */
     private static void aNewRestIfARepeatEndsAhead() {
-        ScoreHouse house = withBars(24);
+        ScoreHouse house = Scores.withBars(24, 2, 4);
         house.addRepeat(0, 0, 0);
         sameRests(house, "with bar 0", 1);
         house.dropRepeat(0);
@@ -255,11 +224,11 @@ public final class PartsEdgesTest {
     /** "if the endings of a repeat begin with it": of one ending, and of one less than its bars. */
     private static void aNewRestIfTheEndingsBegin() {
         for (int endings = 1; endings <= 4; endings++) {
-            ScoreHouse house = withBars(24);
+            ScoreHouse house = Scores.withBars(24, 2, 4);
             house.addRepeat(10, 14, endings);
             sameRests(house, endings + " endings", 10, 15 - endings, 15);
         }
-        ScoreHouse all = withBars(24);
+        ScoreHouse all = Scores.withBars(24, 2, 4);
         all.addRepeat(0, 23, 1);
         sameRests(all, "the last bar", 23);
         all.dropRepeat(0);
@@ -268,68 +237,69 @@ public final class PartsEdgesTest {
     }
 
     private static void noNewRestWithoutEndings() {
-        ScoreHouse house = withBars(24);
+        ScoreHouse house = Scores.withBars(24, 2, 4);
         house.addRepeat(10, 14, 0);
         sameRests(house, "no endings", 10, 15);
-        fillBar(house, 0, 15);
-        sameItems(house, "and a bar behind", 0,
+        Scores.fillBar(house, 0, 15);
+        CHECK.sameItems(house, "and a bar behind", 0,
                 item(REST, 0, 10), item(REST, 10, 5), item(BAR, 15, 1), item(REST, 16, 8));
     }
 
     /** "If a REST would have 4 bars or more": 3, 4, 5 and 23. */
     private static void aCueIfARestWouldHave4Bars() {
         for (int bars : new int[] {1, 2, 3, 4, 5, 23}) {
-            ScoreHouse house = withBars(24);
-            fillBar(house, 0, bars);
-            fillBar(house, 1, bars - 1);
+            ScoreHouse house = Scores.withBars(24, 2, 4);
+            Scores.fillBar(house, 0, bars);
+            Scores.fillBar(house, 1, bars - 1);
             int behind = 23 - bars;
             String what = "a rest of " + bars;
             if (bars < 4) {
-                sameItems(house, what, 0, item(REST, 0, bars), item(BAR, bars, 1), item(REST, bars + 1, behind));
+                CHECK.sameItems(house, what, 0, item(REST, 0, bars), item(BAR, bars, 1), item(REST, bars + 1, behind));
             } else if (behind > 0) {
-                sameItems(house, what, 0, item(REST, 0, bars - 1), cue(bars - 1, 1), item(BAR, bars, 1),
+                CHECK.sameItems(house, what, 0, item(REST, 0, bars - 1), cue(bars - 1, 1), item(BAR, bars, 1),
                         item(REST, bars + 1, behind));
             } else {
-                sameItems(house, what, 0, item(REST, 0, bars - 1), cue(bars - 1, 1), item(BAR, bars, 1));
+                CHECK.sameItems(house, what, 0, item(REST, 0, bars - 1), cue(bars - 1, 1), item(BAR, bars, 1));
             }
         }
     }
 
     /** The bars that are counted are those of the one REST, not all empty bars. */
     private static void aRestOfFourIsCountedAsItIsJoined() {
-        ScoreHouse house = withBars(8);
-        fillBar(house, 0, 7);
-        fillBar(house, 1, 6);
+        ScoreHouse house = Scores.withBars(8, 2, 4);
+        Scores.fillBar(house, 0, 7);
+        Scores.fillBar(house, 1, 6);
         house.setTempo(4, 100);
-        sameItems(house, "4 and 3", 0, item(REST, 0, 4), item(REST, 4, 3), item(BAR, 7, 1));
+        CHECK.sameItems(house, "4 and 3", 0, item(REST, 0, 4), item(REST, 4, 3), item(BAR, 7, 1));
         house.setTempo(4, NONE);
         house.setTempo(3, 100);
-        sameItems(house, "3 and 4", 0, item(REST, 0, 3), item(REST, 3, 3), cue(6, 1), item(BAR, 7, 1));
+        CHECK.sameItems(house, "3 and 4", 0, item(REST, 0, 3), item(REST, 3, 3), cue(6, 1), item(BAR, 7, 1));
         house.setTempo(3, NONE);
         house.setTempo(6, 100);
-        sameItems(house, "6 and 1", 0, item(REST, 0, 6), item(REST, 6, 1), item(BAR, 7, 1));
+        CHECK.sameItems(house, "6 and 1", 0, item(REST, 0, 6), item(REST, 6, 1), item(BAR, 7, 1));
         house.setTempo(6, NONE);
-        fillBar(house, 0, 2);
-        sameItems(house, "2 and 4", 0, item(REST, 0, 2), item(BAR, 2, 1), item(REST, 3, 3), cue(6, 1), item(BAR, 7, 1));
-        fillBar(house, 0, 3);
-        sameItems(house, "3 behind bars", 0,
+        Scores.fillBar(house, 0, 2);
+        CHECK.sameItems(house, "2 and 4", 0,
+                item(REST, 0, 2), item(BAR, 2, 1), item(REST, 3, 3), cue(6, 1), item(BAR, 7, 1));
+        Scores.fillBar(house, 0, 3);
+        CHECK.sameItems(house, "3 behind bars", 0,
                 item(REST, 0, 2), item(BAR, 2, 1), item(BAR, 3, 1), item(REST, 4, 3), item(BAR, 7, 1));
     }
 
     /** "and the bar behind it is not empty" */
     private static void aCueOnlyIfTheBarBehindIsNotEmpty() {
-        ScoreHouse house = withBars(9);
+        ScoreHouse house = Scores.withBars(9, 2, 4);
         for (int bar = 0; bar < 9; bar++) {
-            fillBar(house, 1, bar);
+            Scores.fillBar(house, 1, bar);
         }
-        sameItems(house, "no bar behind", 0, item(REST, 0, 9));
+        CHECK.sameItems(house, "no bar behind", 0, item(REST, 0, 9));
         house.setTempo(4, 100);
-        sameItems(house, "an empty bar behind", 0, item(REST, 0, 4), item(REST, 4, 5));
-        fillBar(house, 0, 8);
-        sameItems(house, "a bar behind the second one", 0,
+        CHECK.sameItems(house, "an empty bar behind", 0, item(REST, 0, 4), item(REST, 4, 5));
+        Scores.fillBar(house, 0, 8);
+        CHECK.sameItems(house, "a bar behind the second one", 0,
                 item(REST, 0, 4), item(REST, 4, 3), cue(7, 1), item(BAR, 8, 1));
-        fillBar(house, 0, 4);
-        sameItems(house, "and behind the first one", 0,
+        Scores.fillBar(house, 0, 4);
+        CHECK.sameItems(house, "and behind the first one", 0,
                 item(REST, 0, 3), cue(3, 1), item(BAR, 4, 1), item(REST, 5, 3), item(BAR, 8, 1));
         house.setPitch(0, 4, 0, 0);
         CHECK.same("a rest is no empty bar", house.itemKind(0, 1), CUE);
@@ -337,28 +307,28 @@ public final class PartsEdgesTest {
 
     /** "if some other voice is not empty in that bar" */
     private static void aCueOnlyIfAnotherVoiceIsNotEmptyInItsBar() {
-        ScoreHouse house = withBars(7);
-        fillBar(house, 3, 5);
-        sameItems(house, "none", 3, item(REST, 0, 5), item(BAR, 5, 1), item(REST, 6, 1));
-        fillBar(house, 0, 3);
-        fillBar(house, 1, 5);
-        fillBar(house, 2, 6);
-        sameItems(house, "ahead and behind", 3, item(REST, 0, 5), item(BAR, 5, 1), item(REST, 6, 1));
-        fillBar(house, 2, 4);
-        sameItems(house, "in its last bar", 3, item(REST, 0, 4), cue(4, 2), item(BAR, 5, 1), item(REST, 6, 1));
+        ScoreHouse house = Scores.withBars(7, 2, 4);
+        Scores.fillBar(house, 3, 5);
+        CHECK.sameItems(house, "none", 3, item(REST, 0, 5), item(BAR, 5, 1), item(REST, 6, 1));
+        Scores.fillBar(house, 0, 3);
+        Scores.fillBar(house, 1, 5);
+        Scores.fillBar(house, 2, 6);
+        CHECK.sameItems(house, "ahead and behind", 3, item(REST, 0, 5), item(BAR, 5, 1), item(REST, 6, 1));
+        Scores.fillBar(house, 2, 4);
+        CHECK.sameItems(house, "in its last bar", 3, item(REST, 0, 4), cue(4, 2), item(BAR, 5, 1), item(REST, 6, 1));
         house.remove(2, 4, 0);
-        sameItems(house, "taken away", 3, item(REST, 0, 5), item(BAR, 5, 1), item(REST, 6, 1));
+        CHECK.sameItems(house, "taken away", 3, item(REST, 0, 5), item(BAR, 5, 1), item(REST, 6, 1));
     }
 
     /** "of several the lowest is the cue": never the voice itself. */
     private static void theLowestVoiceIsTheCue() {
         for (int voice = 0; voice < 4; voice++) {
-            ScoreHouse house = withBars(5);
-            fillBar(house, voice, 4);
+            ScoreHouse house = Scores.withBars(5, 2, 4);
+            Scores.fillBar(house, voice, 4);
             for (int other = 3; other >= 0; other--) {
                 if (other != voice) {
-                    fillBar(house, other, 3);
-                    sameItems(house, "voice " + voice + ", cue " + other, voice,
+                    Scores.fillBar(house, other, 3);
+                    CHECK.sameItems(house, "voice " + voice + ", cue " + other, voice,
                             item(REST, 0, 3), cue(3, other), item(BAR, 4, 1));
                 }
             }
@@ -366,18 +336,18 @@ public final class PartsEdgesTest {
     }
 
     private static void aVoiceOfRestsThatIsNotRightIsACue() {
-        ScoreHouse house = withBars(5);
-        fillBar(house, 0, 4);
+        ScoreHouse house = Scores.withBars(5, 2, 4);
+        Scores.fillBar(house, 0, 4);
         house.insert(3, 3, 0, 0, 5, TRIPLET);
-        sameItems(house, "a rest of 2 ticks", 0, item(REST, 0, 3), cue(3, 3), item(BAR, 4, 1));
+        CHECK.sameItems(house, "a rest of 2 ticks", 0, item(REST, 0, 3), cue(3, 3), item(BAR, 4, 1));
         CHECK.same("its width", house.itemWidth(0, 1), 10 + 3);
     }
 
     /** "NONE if it is no CUE" */
     private static void theCueIsNoneOfOtherItems() {
-        ScoreHouse house = withBars(5);
-        fillBar(house, 1, 4);
-        fillBar(house, 0, 3);
+        ScoreHouse house = Scores.withBars(5, 2, 4);
+        Scores.fillBar(house, 1, 4);
+        Scores.fillBar(house, 0, 3);
         CHECK.same("of a REST", house.cue(1, 0), NONE);
         CHECK.same("of a CUE of the voice 0", house.cue(1, 1), 0);
         CHECK.same("of a BAR", house.cue(1, 2), NONE);
@@ -385,9 +355,9 @@ public final class PartsEdgesTest {
 
     /** "3 wide, if it is the bar 0" */
     private static void theSignsOfTheBar0() {
-        ScoreHouse house = withBars(2);
-        fillBar(house, 0, 0);
-        fillBar(house, 0, 1);
+        ScoreHouse house = Scores.withBars(2, 2, 4);
+        Scores.fillBar(house, 0, 0);
+        Scores.fillBar(house, 0, 1);
         CHECK.same("bar 0", house.itemWidth(0, 0), 3 + 22);
         CHECK.same("bar 1", house.itemWidth(0, 1), 22);
         CHECK.same("a rest from bar 0 on", house.itemWidth(1, 0), 3 + 16 + 2);
@@ -395,9 +365,9 @@ public final class PartsEdgesTest {
 
     /** "or its metre is not that of the bar ahead of it" */
     private static void theSignsOfAnotherMetre() {
-        ScoreHouse house = withBars(3);
+        ScoreHouse house = Scores.withBars(3, 2, 4);
         for (int bar = 0; bar < 3; bar++) {
-            fillBar(house, 0, bar);
+            Scores.fillBar(house, 0, bar);
         }
         house.setMetre(1, 4, 8);
         CHECK.same("as long, but another one", house.itemWidth(0, 1), 3 + 22);
@@ -411,9 +381,9 @@ public final class PartsEdgesTest {
 
     /** "and 4, if a tempo is told at it" */
     private static void theSignsOfATempo() {
-        ScoreHouse house = withBars(2);
-        fillBar(house, 0, 0);
-        fillBar(house, 0, 1);
+        ScoreHouse house = Scores.withBars(2, 2, 4);
+        Scores.fillBar(house, 0, 0);
+        Scores.fillBar(house, 0, 1);
         house.setTempo(0, 120);
         CHECK.same("at bar 0", house.itemWidth(0, 0), 7 + 22);
         CHECK.same("it holds there, but is not told", house.itemWidth(0, 1), 22);
@@ -425,9 +395,9 @@ public final class PartsEdgesTest {
 
     /** "and 2, if a repeat begins with it; and 2, if a repeat ends with it; all that applies together" */
     private static void theSignsOfRepeats() {
-        ScoreHouse house = withBars(4);
+        ScoreHouse house = Scores.withBars(4, 2, 4);
         for (int bar = 0; bar < 4; bar++) {
-            fillBar(house, 0, bar);
+            Scores.fillBar(house, 0, bar);
         }
         house.addRepeat(1, 3, 1);
         int[] due = {3 + 22, 2 + 22, 22, 2 + 22};
@@ -445,7 +415,7 @@ public final class PartsEdgesTest {
 
     /** "The width of an item are the signs of all its bars": also of the last one of a rest. */
     private static void theSignsOfAllBarsOfARest() {
-        ScoreHouse house = withBars(6);
+        ScoreHouse house = Scores.withBars(6, 2, 4);
         house.addRepeat(0, 4, 0);
         CHECK.same("one begins and ends in it", house.itemWidth(0, 0), 3 + 2 + 2 + 16 + 5);
         CHECK.same("the bar behind", house.itemWidth(0, 1), 16 + 1);
@@ -454,7 +424,7 @@ public final class PartsEdgesTest {
         house.setTempo(5, 60);
         house.addRepeat(5, 5, 0);
         CHECK.same("all but a metre, in one bar", house.itemWidth(0, 1), 4 + 2 + 2 + 16 + 1);
-        fillBar(house, 0, 5);
+        Scores.fillBar(house, 0, 5);
         house.insert(1, 4, 0, 60, 5, PLAIN);
         CHECK.same("without its last bar", house.itemWidth(0, 0), 3 + 4 + 2 + 16 + 4);
         CHECK.same("the cue has the sign of that", house.itemWidth(0, 1), 2 + 10 + 3);
@@ -497,8 +467,8 @@ public final class PartsEdgesTest {
 
     /** "3 if it has a mark": 0 is one. */
     private static void theWidthOfMarks() {
-        ScoreHouse house = withBars(2);
-        fillBar(house, 0, 1);
+        ScoreHouse house = Scores.withBars(2, 2, 4);
+        Scores.fillBar(house, 0, 1);
         CHECK.same("none", house.itemWidth(0, 1), 22);
         for (int mark = 0; mark <= 5; mark++) {
             house.setMark(0, 1, 0, mark);
@@ -513,7 +483,7 @@ public final class PartsEdgesTest {
 
     /** "and 2 more if it and the one ahead of it in the bar both have one" */
     private static void theWidthOfMarksSideBySide() {
-        ScoreHouse house = withBars(3);
+        ScoreHouse house = Scores.withBars(3, 2, 4);
         for (int bar = 0; bar < 3; bar++) {
             for (int index = 0; index < 4; index++) {
                 house.insert(0, bar, index, 60, 3, PLAIN);
@@ -536,10 +506,10 @@ public final class PartsEdgesTest {
 
     /** "for a REST 16 and the number of its bars" */
     private static void theWidthOfRests() {
-        ScoreHouse house = withBars(24);
+        ScoreHouse house = Scores.withBars(24, 2, 4);
         CHECK.same("24 bars", house.itemWidth(0, 0), 3 + 16 + 24);
-        fillBar(house, 0, 1);
-        fillBar(house, 0, 3);
+        Scores.fillBar(house, 0, 1);
+        Scores.fillBar(house, 0, 3);
         CHECK.same("the bar 0", house.itemWidth(0, 0), 3 + 16 + 1);
         CHECK.same("one bar", house.itemWidth(0, 2), 16 + 1);
         CHECK.same("20 bars", house.itemWidth(0, 4), 16 + 20);

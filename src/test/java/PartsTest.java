@@ -1,6 +1,6 @@
 /** Promises 36 to 45. */
 public final class PartsTest {
-    private static final Check CHECK = new Check("PartsTest");
+    private static final ScoreCheck CHECK = new ScoreCheck("PartsTest");
     private static final int PLAIN = ScoreHouse.PLAIN, DOTTED = ScoreHouse.DOTTED, TRIPLET = ScoreHouse.TRIPLET;
     private static final int BAR = ScoreHouse.BAR, REST = ScoreHouse.REST, CUE = ScoreHouse.CUE;
 
@@ -20,20 +20,8 @@ public final class PartsTest {
         CHECK.end();
     }
 
-    private static ScoreHouse withBars(int count, int beats, int unit) {
-        ScoreHouse house = new ScoreHouse();
-        for (int bar = 0; bar < count; bar++) {
-            house.addBar(beats, unit);
-        }
-        return house;
-    }
-
-    private static void fillBar(ScoreHouse house, int voice, int bar) {
-        house.insert(voice, bar, 0, 60, 1, PLAIN);
-    }
-
     private static void promise36SetPaper() {
-        ScoreHouse house = withBars(1, 2, 4);
+        ScoreHouse house = Scores.withBars(1, 2, 4);
         CHECK.same("width 120 at first: a quarter of 100 squared", house.badness(0), 2500);
         house.setPaper(400, 6, 20000);
         CHECK.same("width 400", house.badness(0), 380 * 380 / 4);
@@ -46,99 +34,93 @@ public final class PartsTest {
         CHECK.same("width 40", house.badness(0), 100);
     }
 
-    /** Each item is told by its kind, first bar, bars and cue. */
-    private static void sameItems(ScoreHouse house, String what, int voice, int[]... items) {
-        CHECK.same(what + ": items", house.items(voice), items.length);
-        for (int item = 0; item < Math.min(house.items(voice), items.length); item++) {
-            CHECK.same(what + ": kind of " + item, house.itemKind(voice, item), items[item][0]);
-            CHECK.same(what + ": bar of " + item, house.itemBar(voice, item), items[item][1]);
-            CHECK.same(what + ": bars of " + item, house.itemBars(voice, item), items[item][2]);
-            CHECK.same(what + ": cue of " + item, house.cue(voice, item), items[item].length > 3 ? items[item][3] : -1);
-        }
-    }
-
     private static int[] item(int... told) {
         return told;
     }
 
     private static void promises37To40Items() {
-        ScoreHouse house = withBars(6, 2, 4);
-        sameItems(house, "all empty", 0, item(REST, 0, 6));
-        fillBar(house, 0, 2);
-        fillBar(house, 0, 3);
-        sameItems(house, "rests around", 0, item(REST, 0, 2), item(BAR, 2, 1), item(BAR, 3, 1), item(REST, 4, 2));
-        sameItems(house, "another voice", 1, item(REST, 0, 6));
+        ScoreHouse house = Scores.withBars(6, 2, 4);
+        CHECK.sameItems(house, "all empty", 0, item(REST, 0, 6));
+        Scores.fillBar(house, 0, 2);
+        Scores.fillBar(house, 0, 3);
+        CHECK.sameItems(house, "rests around", 0, item(REST, 0, 2), item(BAR, 2, 1), item(BAR, 3, 1), item(REST, 4, 2));
+        CHECK.sameItems(house, "another voice", 1, item(REST, 0, 6));
         house.setPitch(0, 2, 0, 0);
-        sameItems(house, "a bar with a rest is a bar", 0,
+        CHECK.sameItems(house, "a bar with a rest is a bar", 0,
                 item(REST, 0, 2), item(BAR, 2, 1), item(BAR, 3, 1), item(REST, 4, 2));
         house.remove(0, 2, 0);
-        sameItems(house, "emptied", 0, item(REST, 0, 3), item(BAR, 3, 1), item(REST, 4, 2));
+        CHECK.sameItems(house, "emptied", 0, item(REST, 0, 3), item(BAR, 3, 1), item(REST, 4, 2));
         house.addBar(2, 4);
-        sameItems(house, "one bar more", 0, item(REST, 0, 3), item(BAR, 3, 1), item(REST, 4, 3));
+        CHECK.sameItems(house, "one bar more", 0, item(REST, 0, 3), item(BAR, 3, 1), item(REST, 4, 3));
     }
 
     private static void restsThatArePartedByWhatIsTold() {
-        ScoreHouse house = withBars(8, 2, 4);
+        ScoreHouse house = Scores.withBars(8, 2, 4);
         house.setMetre(3, 4, 8);
-        sameItems(house, "another unit of the same length", 0, item(REST, 0, 3), item(REST, 3, 1), item(REST, 4, 4));
+        CHECK.sameItems(house, "another unit of the same length", 0,
+                item(REST, 0, 3), item(REST, 3, 1), item(REST, 4, 4));
         house.setMetre(3, 3, 4);
-        sameItems(house, "other beats", 0, item(REST, 0, 3), item(REST, 3, 1), item(REST, 4, 4));
+        CHECK.sameItems(house, "other beats", 0, item(REST, 0, 3), item(REST, 3, 1), item(REST, 4, 4));
         house.setMetre(3, 2, 4);
         house.setTempo(5, 120);
-        sameItems(house, "the tempo that holds, told", 0, item(REST, 0, 5), item(REST, 5, 3));
+        CHECK.sameItems(house, "the tempo that holds, told", 0, item(REST, 0, 5), item(REST, 5, 3));
         house.setTempo(5, ScoreHouse.NONE);
         house.setTempo(0, 60);
-        sameItems(house, "a tempo at the first bar", 0, item(REST, 0, 8));
+        CHECK.sameItems(house, "a tempo at the first bar", 0, item(REST, 0, 8));
     }
 
     private static void restsThatArePartedByRepeats() {
-        ScoreHouse house = withBars(8, 2, 4);
+        ScoreHouse house = Scores.withBars(8, 2, 4);
         house.addRepeat(2, 5, 0);
-        sameItems(house, "a repeat", 0, item(REST, 0, 2), item(REST, 2, 4), item(REST, 6, 2));
+        CHECK.sameItems(house, "a repeat", 0, item(REST, 0, 2), item(REST, 2, 4), item(REST, 6, 2));
         house.dropRepeat(2);
         house.addRepeat(2, 5, 1);
-        sameItems(house, "an ending", 0, item(REST, 0, 2), item(REST, 2, 3), item(REST, 5, 1), item(REST, 6, 2));
+        CHECK.sameItems(house, "an ending", 0, item(REST, 0, 2), item(REST, 2, 3), item(REST, 5, 1), item(REST, 6, 2));
         house.dropRepeat(2);
         house.addRepeat(2, 5, 3);
-        sameItems(house, "three endings", 0, item(REST, 0, 2), item(REST, 2, 1), item(REST, 3, 3), item(REST, 6, 2));
+        CHECK.sameItems(house, "three endings", 0,
+                item(REST, 0, 2), item(REST, 2, 1), item(REST, 3, 3), item(REST, 6, 2));
         house.dropRepeat(2);
-        sameItems(house, "dropped", 0, item(REST, 0, 8));
+        CHECK.sameItems(house, "dropped", 0, item(REST, 0, 8));
     }
 
     private static void promise41Cue() {
-        ScoreHouse house = withBars(6, 2, 4);
-        fillBar(house, 1, 5);
-        fillBar(house, 3, 4);
-        sameItems(house, "a rest of 5 bars", 1, item(REST, 0, 4), item(CUE, 4, 1, 3), item(BAR, 5, 1));
-        fillBar(house, 0, 4);
-        sameItems(house, "the lowest of several", 1, item(REST, 0, 4), item(CUE, 4, 1, 0), item(BAR, 5, 1));
+        ScoreHouse house = Scores.withBars(6, 2, 4);
+        Scores.fillBar(house, 1, 5);
+        Scores.fillBar(house, 3, 4);
+        CHECK.sameItems(house, "a rest of 5 bars", 1, item(REST, 0, 4), item(CUE, 4, 1, 3), item(BAR, 5, 1));
+        Scores.fillBar(house, 0, 4);
+        CHECK.sameItems(house, "the lowest of several", 1, item(REST, 0, 4), item(CUE, 4, 1, 0), item(BAR, 5, 1));
         house.setMetre(0, 3, 4);
-        sameItems(house, "a rest of 4 bars", 1, item(REST, 0, 1), item(REST, 1, 3), item(CUE, 4, 1, 0), item(BAR, 5, 1));
+        CHECK.sameItems(house, "a rest of 4 bars", 1,
+                item(REST, 0, 1), item(REST, 1, 3), item(CUE, 4, 1, 0), item(BAR, 5, 1));
         house.setTempo(2, 90);
-        sameItems(house, "a rest of 3 bars", 1, item(REST, 0, 1), item(REST, 1, 1), item(REST, 2, 3), item(BAR, 5, 1));
+        CHECK.sameItems(house, "a rest of 3 bars", 1,
+                item(REST, 0, 1), item(REST, 1, 1), item(REST, 2, 3), item(BAR, 5, 1));
         house.setTempo(2, ScoreHouse.NONE);
         house.remove(0, 4, 0);
         house.remove(3, 4, 0);
-        fillBar(house, 0, 3);
-        fillBar(house, 0, 5);
-        sameItems(house, "no other voice in the last bar", 1, item(REST, 0, 1), item(REST, 1, 4), item(BAR, 5, 1));
+        Scores.fillBar(house, 0, 3);
+        Scores.fillBar(house, 0, 5);
+        CHECK.sameItems(house, "no other voice in the last bar", 1,
+                item(REST, 0, 1), item(REST, 1, 4), item(BAR, 5, 1));
         house.insert(2, 4, 0, 0, 5, PLAIN);
-        sameItems(house, "a cue that rests and is not right", 1,
+        CHECK.sameItems(house, "a cue that rests and is not right", 1,
                 item(REST, 0, 1), item(REST, 1, 3), item(CUE, 4, 1, 2), item(BAR, 5, 1));
         house.remove(1, 5, 0);
-        sameItems(house, "none behind is not empty", 1, item(REST, 0, 1), item(REST, 1, 5));
+        CHECK.sameItems(house, "none behind is not empty", 1, item(REST, 0, 1), item(REST, 1, 5));
         house.remove(0, 5, 0);
         house.remove(0, 3, 0);
-        fillBar(house, 1, 5);
+        Scores.fillBar(house, 1, 5);
         house.setTempo(5, 100);
-        sameItems(house, "what is told behind does not matter", 1,
+        CHECK.sameItems(house, "what is told behind does not matter", 1,
                 item(REST, 0, 1), item(REST, 1, 3), item(CUE, 4, 1, 2), item(BAR, 5, 1));
     }
 
     private static void promise42WidthOfBars() {
-        ScoreHouse house = withBars(2, 4, 4);
-        fillBar(house, 0, 0);
-        fillBar(house, 0, 0);
+        ScoreHouse house = Scores.withBars(2, 4, 4);
+        Scores.fillBar(house, 0, 0);
+        Scores.fillBar(house, 0, 0);
         house.insert(0, 1, 0, 60, 3, DOTTED);
         house.insert(0, 1, 1, 60, 4, PLAIN);
         house.insert(0, 1, 2, 60, 5, PLAIN);
@@ -165,8 +147,8 @@ public final class PartsTest {
     }
 
     private static void promise42WidthOfRestsAndCues() {
-        ScoreHouse house = withBars(7, 2, 4);
-        fillBar(house, 0, 6);
+        ScoreHouse house = Scores.withBars(7, 2, 4);
+        Scores.fillBar(house, 0, 6);
         CHECK.same("a rest of 6 bars", house.itemWidth(0, 0), 3 + 16 + 6);
         house.insert(2, 5, 0, 60, 3, DOTTED);
         house.insert(2, 5, 1, 60, 4, PLAIN);
@@ -175,19 +157,19 @@ public final class PartsTest {
         house.setMark(2, 5, 1, 1);
         CHECK.same("a rest of 5 bars", house.itemWidth(0, 0), 3 + 16 + 5);
         CHECK.same("a cue of 18, 6 and 12 ticks", house.itemWidth(0, 1), 10 + 3 * 3 + 2 + 0 + 1);
-        fillBar(house, 3, 5);
+        Scores.fillBar(house, 3, 5);
         CHECK.same("the lowest is the cue", house.itemWidth(0, 1), 10 + 3 * 3 + 2 + 0 + 1);
     }
 
     private static void promise42WidthOfSigns() {
-        ScoreHouse house = withBars(8, 2, 4);
-        fillBar(house, 0, 7);
+        ScoreHouse house = Scores.withBars(8, 2, 4);
+        Scores.fillBar(house, 0, 7);
         CHECK.same("the bar 0 and 7 bars", house.itemWidth(0, 0), 3 + 16 + 7);
         house.setTempo(0, 50);
         CHECK.same("and a tempo", house.itemWidth(0, 0), 7 + 16 + 7);
         house.addRepeat(0, 6, 0);
         CHECK.same("and a repeat that begins, and ends", house.itemWidth(0, 0), 11 + 16 + 7);
-        fillBar(house, 1, 6);
+        Scores.fillBar(house, 1, 6);
         CHECK.same("it ends with the cue now", house.itemWidth(0, 0), 9 + 16 + 6);
         CHECK.same("the cue where it ends", house.itemWidth(0, 1), 2 + 10 + 3 + 6);
         house.dropRepeat(0);
@@ -204,51 +186,41 @@ public final class PartsTest {
 
     /** Bars of which each is as wide as 22 and its signs. */
     private static ScoreHouse withFullBars(int count) {
-        ScoreHouse house = withBars(count, 2, 4);
+        ScoreHouse house = Scores.withBars(count, 2, 4);
         for (int bar = 0; bar < count; bar++) {
-            fillBar(house, 0, bar);
+            Scores.fillBar(house, 0, bar);
         }
         return house;
     }
 
-    private static void sameLines(ScoreHouse house, String what, int badness, int... firstItems) {
-        CHECK.same(what + ": lines", house.lines(0), firstItems.length);
-        for (int line = 0; line < Math.min(house.lines(0), firstItems.length); line++) {
-            CHECK.same(what + ": first of " + line, house.firstItem(0, line), firstItems[line]);
-        }
-        CHECK.same(what + ": badness", house.badness(0), badness);
-        CHECK.notThere(what + ": line behind", () -> house.firstItem(0, firstItems.length));
-        CHECK.notThere(what + ": line -1", () -> house.firstItem(0, -1));
-    }
-
     private static void promises43To45Lines() {
         ScoreHouse house = withFullBars(5);
-        sameLines(house, "just one line", 7 * 7 / 4, 0);
+        CHECK.sameLines(house, "just one line", 7 * 7 / 4, 0);
         house.setPaper(113, 4, 0);
-        sameLines(house, "just as wide as the paper", 0, 0);
+        CHECK.sameLines(house, "just as wide as the paper", 0, 0);
         house.setPaper(112, 4, 0);
         // 25 + 44 and 44: 43 squared and 68 squared / 4; 25 + 66 and 22: 21 squared and 90 squared / 4.
-        sameLines(house, "too wide by one", 21 * 21 + 90 * 90 / 4, 0, 4);
+        CHECK.sameLines(house, "too wide by one", 21 * 21 + 90 * 90 / 4, 0, 4);
         house.setPaper(70, 4, 0);
-        sameLines(house, "a full line ahead of the last", 1 + 26 * 26 / 4, 0, 3);
+        CHECK.sameLines(house, "a full line ahead of the last", 1 + 26 * 26 / 4, 0, 3);
     }
 
     private static void linesThatAreTooWide() {
-        ScoreHouse house = withBars(3, 9, 2);
+        ScoreHouse house = Scores.withBars(3, 9, 2);
         for (int event = 0; event < 3; event++) {
             house.insert(0, 1, event, 60, 0, DOTTED);
         }
         house.setPaper(100, 4, 0);
         // A rest is 3 + 17 or 17 wide, the bar 10 + 3 * (4 + 24 + 2) = 100.
-        sameLines(house, "as wide as the paper", 80 * 80 + 83 * 83 / 4, 0, 1, 2);
+        CHECK.sameLines(house, "as wide as the paper", 80 * 80 + 83 * 83 / 4, 0, 1, 2);
         house.setPaper(99, 4, 0);
-        sameLines(house, "wider by one", 79 * 79 + 1000001 + 82 * 82 / 4, 0, 1, 2);
-        ScoreHouse last = withBars(1, 9, 2);
+        CHECK.sameLines(house, "wider by one", 79 * 79 + 1000001 + 82 * 82 / 4, 0, 1, 2);
+        ScoreHouse last = Scores.withBars(1, 9, 2);
         for (int event = 0; event < 3; event++) {
             last.insert(0, 0, event, 60, 0, DOTTED);
         }
         last.setPaper(40, 4, 0);
-        sameLines(last, "the last line, wider by 63", 1000000 + 63 * 63, 0);
+        CHECK.sameLines(last, "the last line, wider by 63", 1000000 + 63 * 63, 0);
     }
 
     private static void linesOfEqualBadness() {
@@ -262,7 +234,7 @@ public final class PartsTest {
         }
         // Rests 20 wide each, and a bar 3 + 10 + 6 * 6 = 49 wide, which has a line of its own.
         house.setPaper(50, 4, 0);
-        sameLines(house, "of 2 and 1 or 1 and 2 items", 10 * 10 + 30 * 30, 0, 2, 3);
+        CHECK.sameLines(house, "of 2 and 1 or 1 and 2 items", 10 * 10 + 30 * 30, 0, 2, 3);
         ScoreHouse longer = new ScoreHouse();
         for (int bar = 0; bar < 6; bar++) {
             longer.addBar(2 + bar % 2, 4);
@@ -272,11 +244,11 @@ public final class PartsTest {
         }
         longer.setPaper(60, 4, 0);
         // Of 5 rests 3 and 2, or 2 and 3.
-        sameLines(longer, "of 3 and 2 or 2 and 3 items", 20 * 20 + 11 * 11 / 4, 0, 3, 5);
+        CHECK.sameLines(longer, "of 3 and 2 or 2 and 3 items", 20 * 20 + 11 * 11 / 4, 0, 3, 5);
     }
 
     private static void refusedOfAllParts() {
-        ScoreHouse house = withBars(2, 2, 4);
+        ScoreHouse house = Scores.withBars(2, 2, 4);
         house.insert(1, 1, 0, 60, 2, PLAIN);
         CHECK.same("another voice can be drawn", house.items(0), 1);
         CHECK.badState("items", () -> house.items(1));

@@ -1,6 +1,6 @@
 /** The boundary cases of promises 23 to 35, a method for each sentence of the document that names one. */
 public final class PlayingEdgesTest {
-    private static final Check CHECK = new Check("PlayingEdgesTest");
+    private static final ScoreCheck CHECK = new ScoreCheck("PlayingEdgesTest");
     private static final int PLAIN = ScoreHouse.PLAIN, DOTTED = ScoreHouse.DOTTED, TRIPLET = ScoreHouse.TRIPLET;
     private static final int NONE = ScoreHouse.NONE;
 
@@ -41,18 +41,9 @@ public final class PlayingEdgesTest {
         CHECK.end();
     }
 
-    /** Bars of 2 quarters, so of a second. */
-    private static ScoreHouse withBars(int count) {
-        ScoreHouse house = new ScoreHouse();
-        for (int bar = 0; bar < count; bar++) {
-            house.addBar(2, 4);
-        }
-        return house;
-    }
-
     /** Bars, each full of one note of the pitch 60 in the voice 0, and all of them tied. */
     private static ScoreHouse withTiedBars(int count) {
-        ScoreHouse house = withBars(count);
+        ScoreHouse house = Scores.withBars(count, 2, 4);
         for (int bar = 0; bar < count; bar++) {
             house.insert(0, bar, 0, 60, 1, PLAIN);
             house.setTie(0, bar, 0, true);
@@ -60,37 +51,9 @@ public final class PlayingEdgesTest {
         return house;
     }
 
-    private static void samePlaces(ScoreHouse house, String what, int... bars) {
-        CHECK.same(what + ": places", house.places(), bars.length);
-        for (int place = 0; place < Math.min(house.places(), bars.length); place++) {
-            CHECK.same(what + ": bar of place " + place, house.barAt(place), bars[place]);
-        }
-        CHECK.notThere(what + ": bar of the place behind", () -> house.barAt(bars.length));
-        CHECK.notThere(what + ": bar of place -1", () -> house.barAt(-1));
-        CHECK.notThere(what + ": start of the place behind", () -> house.startOf(bars.length));
-        CHECK.notThere(what + ": start of place -1", () -> house.startOf(-1));
-    }
-
-    /** Each sound is told by its start and its time. */
-    private static void sameSounds(ScoreHouse house, String what, int... startsAndTimes) {
-        int sounds = startsAndTimes.length / 2;
-        CHECK.same(what + ": sounds", house.sounds(), sounds);
-        for (int sound = 0; sound < Math.min(house.sounds(), sounds); sound++) {
-            CHECK.same(what + ": start of " + sound, house.soundStart(sound), startsAndTimes[2 * sound]);
-            CHECK.same(what + ": time of " + sound, house.soundTime(sound), startsAndTimes[2 * sound + 1]);
-        }
-        for (int sound : new int[] {-1, sounds}) {
-            CHECK.notThere(what + ": voice of " + sound, () -> house.soundVoice(sound));
-            CHECK.notThere(what + ": start of " + sound, () -> house.soundStart(sound));
-            CHECK.notThere(what + ": time of " + sound, () -> house.soundTime(sound));
-            CHECK.notThere(what + ": pitch of " + sound, () -> house.soundPitch(sound));
-            CHECK.notThere(what + ": loudness of " + sound, () -> house.loudness(sound));
-        }
-    }
-
     /** "A repeat goes from a bar to the same or a later one" */
     private static void aRepeatGoesToTheSameOrALaterBar() {
-        ScoreHouse house = withBars(24);
+        ScoreHouse house = Scores.withBars(24, 2, 4);
         CHECK.badArgument("to the bar ahead", () -> house.addRepeat(5, 4, 0));
         CHECK.badArgument("to the first from the last", () -> house.addRepeat(23, 0, 0));
         CHECK.same("none is there", house.places(), 24);
@@ -108,7 +71,7 @@ public final class PlayingEdgesTest {
     private static void endingsAre0ToLessThanTheBars() {
         for (int b : new int[] {1, 2, 3, 24}) {
             int bars = b;
-            ScoreHouse house = withBars(24);
+            ScoreHouse house = Scores.withBars(24, 2, 4);
             CHECK.badArgument("-1 of " + bars, () -> house.addRepeat(0, bars - 1, -1));
             CHECK.badArgument(bars + " of " + bars, () -> house.addRepeat(0, bars - 1, bars));
             CHECK.same("no repeat", house.places(), 24);
@@ -123,9 +86,10 @@ public final class PlayingEdgesTest {
 
     /** "no two repeats have a bar in common" */
     private static void noTwoRepeatsHaveABarInCommon() {
-        ScoreHouse house = withBars(10);
+        ScoreHouse house = Scores.withBars(10, 2, 4);
         house.addRepeat(3, 6, 0);
-        int[][] common = {{3, 3}, {6, 6}, {4, 5}, {3, 6}, {2, 3}, {6, 7}, {0, 3}, {6, 9}, {2, 7}, {0, 9}, {0, 6}, {3, 9}};
+        int[][] common = {{3, 3}, {6, 6}, {4, 5}, {3, 6}, {2, 3}, {6, 7},
+                {0, 3}, {6, 9}, {2, 7}, {0, 9}, {0, 6}, {3, 9}};
         for (int[] bars : common) {
             CHECK.badState(bars[0] + " to " + bars[1], () -> house.addRepeat(bars[0], bars[1], 0));
         }
@@ -140,7 +104,7 @@ public final class PlayingEdgesTest {
     }
 
     private static void asManyRepeatsAsBars() {
-        ScoreHouse house = withBars(24);
+        ScoreHouse house = Scores.withBars(24, 2, 4);
         for (int bar = 23; bar >= 0; bar--) {
             CHECK.same("how many there are then", house.addRepeat(bar, bar, 0), 24 - bar);
         }
@@ -158,7 +122,7 @@ public final class PlayingEdgesTest {
 
     /** "if none begins with it" */
     private static void dropRepeatIsToldByTheFirstBar() {
-        ScoreHouse house = withBars(6);
+        ScoreHouse house = Scores.withBars(6, 2, 4);
         CHECK.badState("none at all", () -> house.dropRepeat(0));
         house.addRepeat(1, 4, 2);
         for (int b : new int[] {0, 2, 3, 4, 5}) {
@@ -167,16 +131,16 @@ public final class PlayingEdgesTest {
         }
         CHECK.notThere("bar 6", () -> house.dropRepeat(6));
         CHECK.notThere("bar -1", () -> house.dropRepeat(-1));
-        samePlaces(house, "still there", 0, 1, 2, 3, 4, 1, 2, 5);
+        CHECK.samePlaces(house, "still there", 0, 1, 2, 3, 4, 1, 2, 5);
         CHECK.same("its last bar", house.dropRepeat(1), 4);
         CHECK.badState("no more there", () -> house.dropRepeat(1));
-        samePlaces(house, "dropped", 0, 1, 2, 3, 4, 5);
+        CHECK.samePlaces(house, "dropped", 0, 1, 2, 3, 4, 5);
     }
 
     private static void placesWithoutRepeatsAreTheBars() {
-        samePlaces(new ScoreHouse(), "no bars");
-        samePlaces(withBars(1), "one bar", 0);
-        ScoreHouse most = withBars(24);
+        CHECK.samePlaces(new ScoreHouse(), "no bars");
+        CHECK.samePlaces(Scores.withBars(1, 2, 4), "one bar", 0);
+        ScoreHouse most = Scores.withBars(24, 2, 4);
         CHECK.same("24", most.places(), 24);
         CHECK.same("the first", most.barAt(0), 0);
         CHECK.same("the last", most.barAt(23), 23);
@@ -184,25 +148,25 @@ public final class PlayingEdgesTest {
     }
 
     private static void placesOfRepeatsAtBothEnds() {
-        ScoreHouse house = withBars(4);
+        ScoreHouse house = Scores.withBars(4, 2, 4);
         house.addRepeat(2, 3, 0);
-        samePlaces(house, "at the end", 0, 1, 2, 3, 2, 3);
+        CHECK.samePlaces(house, "at the end", 0, 1, 2, 3, 2, 3);
         house.addRepeat(0, 1, 0);
-        samePlaces(house, "and at the beginning", 0, 1, 0, 1, 2, 3, 2, 3);
+        CHECK.samePlaces(house, "and at the beginning", 0, 1, 0, 1, 2, 3, 2, 3);
         house.dropRepeat(2);
-        samePlaces(house, "at the beginning", 0, 1, 0, 1, 2, 3);
+        CHECK.samePlaces(house, "at the beginning", 0, 1, 0, 1, 2, 3);
         house.addBar(2, 4);
         house.addRepeat(4, 4, 0);
-        samePlaces(house, "of a bar that was added", 0, 1, 0, 1, 2, 3, 4, 4);
+        CHECK.samePlaces(house, "of a bar that was added", 0, 1, 0, 1, 2, 3, 4, 4);
     }
 
     /** "and then once more without as many of its last bars as it has endings" */
     private static void theRepeatIsPlayedOnceMoreWithoutItsEndings() {
         int[][] due = {{0, 1, 2, 3, 1, 2, 3, 4}, {0, 1, 2, 3, 1, 2, 4}, {0, 1, 2, 3, 1, 4}};
         for (int endings = 0; endings < due.length; endings++) {
-            ScoreHouse house = withBars(5);
+            ScoreHouse house = Scores.withBars(5, 2, 4);
             house.addRepeat(1, 3, endings);
-            samePlaces(house, endings + " endings", due[endings]);
+            CHECK.samePlaces(house, endings + " endings", due[endings]);
         }
     }
 
@@ -226,7 +190,7 @@ public final class PlayingEdgesTest {
 
     /** "a place begins when all places ahead of it are over" */
     private static void aPlaceBeginsWhenAllAheadAreOver() {
-        ScoreHouse house = withBars(3);
+        ScoreHouse house = Scores.withBars(3, 2, 4);
         CHECK.same("none ahead", house.startOf(0), 0);
         CHECK.same("one ahead", house.startOf(1), 1000);
         house.setTempo(0, 77);
@@ -252,7 +216,7 @@ public final class PlayingEdgesTest {
     /** "for each place the time of the bar, if it is empty, otherwise what the ticks of all its events .. take" */
     private static void timeByEventsOfEmptyAndOfFewTicks() {
         for (int voice = 0; voice < 4; voice++) {
-            ScoreHouse house = withBars(2);
+            ScoreHouse house = Scores.withBars(2, 2, 4);
             CHECK.same("both empty", house.timeByEvents(voice), 2000);
             house.insert(voice, 1, 0, 0, 5, TRIPLET);
             CHECK.same("2 ticks", house.timeByEvents(voice), 1000 + 41);
@@ -269,7 +233,7 @@ public final class PlayingEdgesTest {
     }
 
     private static void timeByEventsIsRoundedForAllTicksTogether() {
-        ScoreHouse house = withBars(2);
+        ScoreHouse house = Scores.withBars(2, 2, 4);
         house.setTempo(0, 130);
         for (int index = 0; index < 3; index++) {
             house.insert(0, 0, index, 60, 5, PLAIN);
@@ -283,16 +247,16 @@ public final class PlayingEdgesTest {
     }
 
     private static void thereAreNoSoundsOfRests() {
-        ScoreHouse house = withBars(2);
-        sameSounds(new ScoreHouse(), "no bars");
-        sameSounds(house, "no events");
+        ScoreHouse house = Scores.withBars(2, 2, 4);
+        CHECK.sameSounds(new ScoreHouse(), "no bars");
+        CHECK.sameSounds(house, "no events");
         house.insert(0, 0, 0, 0, 1, PLAIN);
         house.insert(3, 1, 0, 0, 5, PLAIN);
-        sameSounds(house, "rests alone");
+        CHECK.sameSounds(house, "rests alone");
         house.setPitch(0, 0, 0, 1);
-        sameSounds(house, "one that becomes a note", 0, 1000);
+        CHECK.sameSounds(house, "one that becomes a note", 0, 1000);
         house.setPitch(0, 0, 0, 0);
-        sameSounds(house, "and a rest again");
+        CHECK.sameSounds(house, "and a rest again");
     }
 
     /** With 512 calls some 480 notes can be told, and played twice. */
@@ -321,17 +285,17 @@ public final class PlayingEdgesTest {
     }
 
     private static void aSoundOfOneNote() {
-        ScoreHouse house = withBars(1);
+        ScoreHouse house = Scores.withBars(1, 2, 4);
         house.setTempo(0, 240);
         house.insert(2, 0, 0, 1, 5, TRIPLET);
-        sameSounds(house, "the shortest", 0, 20);
+        CHECK.sameSounds(house, "the shortest", 0, 20);
         CHECK.same("its voice", house.soundVoice(0), 2);
         CHECK.same("its pitch", house.soundPitch(0), 1);
         ScoreHouse longest = new ScoreHouse();
         longest.addBar(9, 2);
         longest.setTempo(0, 30);
         longest.insert(3, 0, 0, 127, 0, DOTTED);
-        sameSounds(longest, "the longest", 0, 12000);
+        CHECK.sameSounds(longest, "the longest", 0, 12000);
         CHECK.same("its pitch", longest.soundPitch(0), 127);
     }
 
@@ -343,67 +307,67 @@ public final class PlayingEdgesTest {
             house.insert(0, 0, index, 60, 4, PLAIN);
             house.setTie(0, 0, index, true);
         }
-        sameSounds(house, "16 notes", 0, 2000);
+        CHECK.sameSounds(house, "16 notes", 0, 2000);
         house.setTie(0, 0, 14, false);
-        sameSounds(house, "15 and 1", 0, 1875, 1875, 125);
+        CHECK.sameSounds(house, "15 and 1", 0, 1875, 1875, 125);
         house.setTie(0, 0, 0, false);
-        sameSounds(house, "1, 14 and 1", 0, 125, 125, 1750, 1875, 125);
-        sameSounds(withTiedBars(24), "24 bars", 0, 24000);
+        CHECK.sameSounds(house, "1, 14 and 1", 0, 125, 125, 1750, 1875, 125);
+        CHECK.sameSounds(withTiedBars(24), "24 bars", 0, 24000);
         ScoreHouse two = withTiedBars(24);
         two.setTie(0, 11, 0, false);
-        sameSounds(two, "12 and 12 bars", 0, 12000, 12000, 12000);
+        CHECK.sameSounds(two, "12 and 12 bars", 0, 12000, 12000, 12000);
     }
 
     /** "the tie counts, if the event behind it is a note of the same pitch" */
     private static void theTieCountsForTheSamePitchAlone() {
-        ScoreHouse house = withBars(1);
+        ScoreHouse house = Scores.withBars(1, 2, 4);
         house.insert(0, 0, 0, 60, 2, PLAIN);
         house.insert(0, 0, 1, 60, 2, PLAIN);
-        sameSounds(house, "not tied", 0, 500, 500, 500);
+        CHECK.sameSounds(house, "not tied", 0, 500, 500, 500);
         house.setTie(0, 0, 0, true);
-        sameSounds(house, "tied", 0, 1000);
+        CHECK.sameSounds(house, "tied", 0, 1000);
         house.setPitch(0, 0, 1, 61);
-        sameSounds(house, "higher by one", 0, 500, 500, 500);
+        CHECK.sameSounds(house, "higher by one", 0, 500, 500, 500);
         house.setPitch(0, 0, 1, 59);
-        sameSounds(house, "lower by one", 0, 500, 500, 500);
+        CHECK.sameSounds(house, "lower by one", 0, 500, 500, 500);
         house.setPitch(0, 0, 1, 0);
-        sameSounds(house, "a rest behind", 0, 500);
+        CHECK.sameSounds(house, "a rest behind", 0, 500);
         house.setPitch(0, 0, 1, 60);
-        sameSounds(house, "the same again: the tie is still told", 0, 1000);
+        CHECK.sameSounds(house, "the same again: the tie is still told", 0, 1000);
         house.setTie(0, 0, 0, false);
         house.setTie(0, 0, 1, true);
-        sameSounds(house, "the one behind is tied", 0, 500, 500, 500);
+        CHECK.sameSounds(house, "the one behind is tied", 0, 500, 500, 500);
         house.remove(0, 0, 0);
-        sameSounds(house, "the last one alone", 0, 500);
+        CHECK.sameSounds(house, "the last one alone", 0, 500);
     }
 
     /** "behind the last one, the first one of the next bar of the voice" */
     private static void theEventBehindTheLastOneIsInTheNextBar() {
-        ScoreHouse house = withBars(3);
+        ScoreHouse house = Scores.withBars(3, 2, 4);
         house.insert(0, 0, 0, 60, 2, PLAIN);
         house.insert(0, 0, 1, 60, 2, PLAIN);
         house.insert(0, 1, 0, 60, 2, PLAIN);
         house.insert(0, 1, 1, 60, 2, PLAIN);
         house.setTie(0, 0, 1, true);
-        sameSounds(house, "over the bar line", 0, 500, 500, 1000, 1500, 500);
+        CHECK.sameSounds(house, "over the bar line", 0, 500, 500, 1000, 1500, 500);
         house.setPitch(0, 1, 0, 61);
-        sameSounds(house, "not to the second one", 0, 500, 500, 500, 1000, 500, 1500, 500);
+        CHECK.sameSounds(house, "not to the second one", 0, 500, 500, 500, 1000, 500, 1500, 500);
         house.setPitch(0, 1, 0, 0);
-        sameSounds(house, "not over a rest", 0, 500, 500, 500, 1500, 500);
+        CHECK.sameSounds(house, "not over a rest", 0, 500, 500, 500, 1500, 500);
         house.remove(0, 1, 0);
-        sameSounds(house, "the second one is the first", 0, 500, 500, 1000);
+        CHECK.sameSounds(house, "the second one is the first", 0, 500, 500, 1000);
         house.setTie(0, 0, 1, false);
         house.setTie(0, 0, 0, true);
-        sameSounds(house, "the one ahead is not the last", 0, 1000, 1000, 500);
+        CHECK.sameSounds(house, "the one ahead is not the last", 0, 1000, 1000, 500);
     }
 
     /** "there is none if that bar is empty": also if the one behind that is not. */
     private static void thereIsNoneBehindIfTheNextBarIsEmpty() {
         ScoreHouse house = withTiedBars(3);
         house.remove(0, 1, 0);
-        sameSounds(house, "an empty bar", 0, 1000, 2000, 1000);
+        CHECK.sameSounds(house, "an empty bar", 0, 1000, 2000, 1000);
         house.insert(1, 1, 0, 60, 1, PLAIN);
-        sameSounds(house, "not empty in another voice", 0, 1000, 1000, 1000, 2000, 1000);
+        CHECK.sameSounds(house, "not empty in another voice", 0, 1000, 1000, 1000, 2000, 1000);
         house.insert(0, 1, 0, 60, 1, PLAIN);
         CHECK.same("no more empty: tied to it, but that is not tied", house.sounds(), 3);
         CHECK.same("its time", house.soundTime(0), 2000);
@@ -412,92 +376,92 @@ public final class PlayingEdgesTest {
     /** "or not there" */
     private static void thereIsNoneBehindTheLastBar() {
         ScoreHouse house = withTiedBars(1);
-        sameSounds(house, "one bar", 0, 1000);
+        CHECK.sameSounds(house, "one bar", 0, 1000);
         house.addBar(2, 4);
-        sameSounds(house, "an empty one behind", 0, 1000);
+        CHECK.sameSounds(house, "an empty one behind", 0, 1000);
         house.insert(0, 1, 0, 60, 5, TRIPLET);
-        sameSounds(house, "no more empty", 0, 1041);
-        sameSounds(withTiedBars(24), "the bar 23", 0, 24000);
+        CHECK.sameSounds(house, "no more empty", 0, 1041);
+        CHECK.sameSounds(withTiedBars(24), "the bar 23", 0, 24000);
     }
 
     /** "each .. being that behind the one ahead of it, whose tie counts, and played right behind it" */
     private static void notesOfASoundArePlayedRightBehind() {
         ScoreHouse house = withTiedBars(4);
-        sameSounds(house, "in order", 0, 4000);
+        CHECK.sameSounds(house, "in order", 0, 4000);
         house.addRepeat(1, 2, 0);
         // 0 1 2 1 2 3: the bar 1 is played right behind 2, but it is not that behind.
-        sameSounds(house, "a repeat", 0, 3000, 3000, 3000);
+        CHECK.sameSounds(house, "a repeat", 0, 3000, 3000, 3000);
         house.dropRepeat(1);
         house.addRepeat(0, 3, 0);
-        sameSounds(house, "a repeat of all", 0, 4000, 4000, 4000);
+        CHECK.sameSounds(house, "a repeat of all", 0, 4000, 4000, 4000);
         house.dropRepeat(0);
         house.addRepeat(0, 0, 0);
-        sameSounds(house, "of the first bar", 0, 1000, 1000, 4000);
+        CHECK.sameSounds(house, "of the first bar", 0, 1000, 1000, 4000);
         house.dropRepeat(0);
         house.addRepeat(3, 3, 0);
-        sameSounds(house, "of the last bar", 0, 4000, 4000, 1000);
+        CHECK.sameSounds(house, "of the last bar", 0, 4000, 4000, 1000);
     }
 
     private static void soundsOverRepeatsOfOneBar() {
         ScoreHouse house = withTiedBars(3);
         house.addRepeat(1, 1, 0);
         // 0 1 1 2
-        sameSounds(house, "a bar once more", 0, 2000, 2000, 2000);
-        ScoreHouse within = withBars(1);
+        CHECK.sameSounds(house, "a bar once more", 0, 2000, 2000, 2000);
+        ScoreHouse within = Scores.withBars(1, 2, 4);
         for (int index = 0; index < 2; index++) {
             within.insert(0, 0, index, 60, 2, PLAIN);
             within.setTie(0, 0, index, true);
         }
         within.addRepeat(0, 0, 0);
-        sameSounds(within, "tied in the bar, not to its beginning", 0, 1000, 1000, 1000);
+        CHECK.sameSounds(within, "tied in the bar, not to its beginning", 0, 1000, 1000, 1000);
     }
 
     private static void soundsOverEndings() {
         ScoreHouse house = withTiedBars(4);
         house.addRepeat(0, 2, 1);
         // 0 1 2 0 1 3: nothing is right behind 2, and 3 is not that behind 1.
-        sameSounds(house, "one ending", 0, 3000, 3000, 2000, 5000, 1000);
+        CHECK.sameSounds(house, "one ending", 0, 3000, 3000, 2000, 5000, 1000);
         house.dropRepeat(0);
         house.addRepeat(0, 2, 2);
         // 0 1 2 0 3
-        sameSounds(house, "two endings", 0, 3000, 3000, 1000, 4000, 1000);
+        CHECK.sameSounds(house, "two endings", 0, 3000, 3000, 1000, 4000, 1000);
         house.dropRepeat(0);
         house.addRepeat(0, 3, 3);
         // 0 1 2 3 0
-        sameSounds(house, "endings up to the end", 0, 4000, 4000, 1000);
+        CHECK.sameSounds(house, "endings up to the end", 0, 4000, 4000, 1000);
     }
 
     /** "as many behind the beginning of the place of its last note as the ticks up to the end of that take there" */
     private static void aSoundEndsByThePlaceOfItsLastNote() {
         ScoreHouse house = withTiedBars(2);
         house.setTempo(1, 60);
-        sameSounds(house, "a slower bar", 0, 3000);
+        CHECK.sameSounds(house, "a slower bar", 0, 3000);
         house.setTempo(1, 240);
-        sameSounds(house, "a faster bar", 0, 1500);
+        CHECK.sameSounds(house, "a faster bar", 0, 1500);
         house.remove(0, 1, 0);
         house.insert(0, 1, 0, 60, 3, PLAIN);
         house.insert(0, 1, 1, 0, 3, PLAIN);
-        sameSounds(house, "it ends in the bar", 0, 1125);
+        CHECK.sameSounds(house, "it ends in the bar", 0, 1125);
     }
 
     /** Starts and ends are those of all ticks ahead of them in the bar, rounded down once. */
     private static void startsAndEndsAreRoundedDownByTicks() {
-        ScoreHouse house = withBars(2);
+        ScoreHouse house = Scores.withBars(2, 2, 4);
         house.setTempo(0, 130);
         for (int index = 0; index < 4; index++) {
             house.insert(1, 1, index, 60 + index, 5, PLAIN);
         }
         // A bar takes 923; 3, 6, 9 and 12 ticks take 57, 115, 173 and 230.
-        sameSounds(house, "3 ticks each", 923, 57, 923 + 57, 58, 923 + 115, 58, 923 + 173, 57);
+        CHECK.sameSounds(house, "3 ticks each", 923, 57, 923 + 57, 58, 923 + 115, 58, 923 + 173, 57);
         house.setPitch(1, 1, 1, 0);
         house.setPitch(1, 1, 2, 63);
         house.setTie(1, 1, 2, true);
-        sameSounds(house, "two tied behind a rest", 923, 57, 923 + 115, 115);
+        CHECK.sameSounds(house, "two tied behind a rest", 923, 57, 923 + 115, 115);
     }
 
     /** "All sounds of all voices are numbered from 0 by their beginnings" */
     private static void soundsAreNumberedByTheirBeginnings() {
-        ScoreHouse house = withBars(2);
+        ScoreHouse house = Scores.withBars(2, 2, 4);
         // The voice 3 begins ahead of 2, that of 1, that of 0, by 2 ticks each.
         for (int voice = 0; voice < 4; voice++) {
             for (int rest = 0; rest < 3 - voice; rest++) {
@@ -525,7 +489,7 @@ public final class PlayingEdgesTest {
 
     /** "those that begin together by rising voices" */
     private static void soundsThatBeginTogetherAreByRisingVoices() {
-        ScoreHouse house = withBars(1);
+        ScoreHouse house = Scores.withBars(1, 2, 4);
         house.addRepeat(0, 0, 0);
         for (int voice = 3; voice >= 0; voice--) {
             house.insert(voice, 0, 0, 60 - voice, 2, PLAIN);
@@ -544,7 +508,7 @@ public final class PlayingEdgesTest {
 
     /** "not transposed" */
     private static void thePitchOfASoundIsNotTransposed() {
-        ScoreHouse house = withBars(1);
+        ScoreHouse house = Scores.withBars(1, 2, 4);
         house.insert(0, 0, 0, 13, 1, PLAIN);
         house.insert(1, 0, 0, 115, 1, PLAIN);
         house.transpose(0, -12);

@@ -1,6 +1,6 @@
 /** Promises 23 to 35. */
 public final class PlayingTest {
-    private static final Check CHECK = new Check("PlayingTest");
+    private static final ScoreCheck CHECK = new ScoreCheck("PlayingTest");
     private static final int PLAIN = ScoreHouse.PLAIN, TRIPLET = ScoreHouse.TRIPLET;
 
     public static void main(String[] args) {
@@ -19,16 +19,8 @@ public final class PlayingTest {
         CHECK.end();
     }
 
-    private static ScoreHouse withBars(int count, int beats, int unit) {
-        ScoreHouse house = new ScoreHouse();
-        for (int bar = 0; bar < count; bar++) {
-            house.addBar(beats, unit);
-        }
-        return house;
-    }
-
     private static void promise23AddRepeat() {
-        ScoreHouse house = withBars(8, 4, 4);
+        ScoreHouse house = Scores.withBars(8, 4, 4);
         CHECK.same("one", house.addRepeat(2, 4, 2), 1);
         CHECK.same("of one bar", house.addRepeat(5, 5, 0), 2);
         CHECK.notThere("from 8", () -> house.addRepeat(8, 8, 0));
@@ -49,7 +41,7 @@ public final class PlayingTest {
     }
 
     private static void promise24DropRepeat() {
-        ScoreHouse house = withBars(6, 4, 4);
+        ScoreHouse house = Scores.withBars(6, 4, 4);
         house.addRepeat(1, 3, 0);
         house.addRepeat(4, 4, 0);
         CHECK.notThere("bar 6", () -> house.dropRepeat(6));
@@ -64,31 +56,22 @@ public final class PlayingTest {
         CHECK.same("last bar of the other", house.dropRepeat(4), 4);
     }
 
-    private static void sameBars(ScoreHouse house, String what, int... bars) {
-        CHECK.same(what + ": places", house.places(), bars.length);
-        for (int place = 0; place < Math.min(bars.length, house.places()); place++) {
-            CHECK.same(what + ": bar at " + place, house.barAt(place), bars[place]);
-        }
-        CHECK.notThere(what + ": behind", () -> house.barAt(bars.length));
-        CHECK.notThere(what + ": ahead", () -> house.barAt(-1));
-    }
-
     private static void promises25And26Places() {
         ScoreHouse house = new ScoreHouse();
-        sameBars(house, "no bars");
-        house = withBars(6, 4, 4);
-        sameBars(house, "no repeats", 0, 1, 2, 3, 4, 5);
+        CHECK.samePlaces(house, "no bars");
+        house = Scores.withBars(6, 4, 4);
+        CHECK.samePlaces(house, "no repeats", 0, 1, 2, 3, 4, 5);
         house.addRepeat(1, 3, 0);
-        sameBars(house, "no endings", 0, 1, 2, 3, 1, 2, 3, 4, 5);
+        CHECK.samePlaces(house, "no endings", 0, 1, 2, 3, 1, 2, 3, 4, 5);
         house.dropRepeat(1);
         house.addRepeat(1, 3, 1);
-        sameBars(house, "an ending", 0, 1, 2, 3, 1, 2, 4, 5);
+        CHECK.samePlaces(house, "an ending", 0, 1, 2, 3, 1, 2, 4, 5);
         house.dropRepeat(1);
         house.addRepeat(1, 3, 2);
         house.addRepeat(4, 5, 1);
         house.addRepeat(0, 0, 0);
-        sameBars(house, "three repeats", 0, 0, 1, 2, 3, 1, 4, 5, 4);
-        ScoreHouse full = withBars(24, 9, 2);
+        CHECK.samePlaces(house, "three repeats", 0, 0, 1, 2, 3, 1, 4, 5, 4);
+        ScoreHouse full = Scores.withBars(24, 9, 2);
         full.addRepeat(0, 23, 0);
         CHECK.same("most places", full.places(), 48);
         CHECK.same("last of most places", full.barAt(47), 23);
@@ -98,7 +81,7 @@ public final class PlayingTest {
         ScoreHouse house = new ScoreHouse();
         CHECK.same("time without bars", house.playingTime(), 0);
         CHECK.notThere("start without bars", () -> house.startOf(0));
-        ScoreHouse other = withBars(3, 4, 4);
+        ScoreHouse other = Scores.withBars(3, 4, 4);
         other.setTempo(1, 130);
         other.addRepeat(1, 2, 1);
         int[] starts = {0, 2000, 3846, 5692};
@@ -113,7 +96,7 @@ public final class PlayingTest {
     }
 
     private static void promise29TimeByEvents() {
-        ScoreHouse house = withBars(2, 4, 4);
+        ScoreHouse house = Scores.withBars(2, 4, 4);
         house.setTempo(1, 130);
         CHECK.same("empty", house.timeByEvents(1), 3846);
         house.insert(1, 1, 0, 60, 3, PLAIN);
@@ -127,68 +110,60 @@ public final class PlayingTest {
         CHECK.same("without bars", new ScoreHouse().timeByEvents(0), 0);
     }
 
-    private static void sameSounds(ScoreHouse house, String what, int... startsAndTimes) {
-        CHECK.same(what + ": sounds", house.sounds(), startsAndTimes.length / 2);
-        for (int sound = 0; sound < Math.min(house.sounds(), startsAndTimes.length / 2); sound++) {
-            CHECK.same(what + ": start of " + sound, house.soundStart(sound), startsAndTimes[2 * sound]);
-            CHECK.same(what + ": time of " + sound, house.soundTime(sound), startsAndTimes[2 * sound + 1]);
-        }
-    }
-
     private static void promise30Sounds() {
-        ScoreHouse house = withBars(1, 4, 4);
+        ScoreHouse house = Scores.withBars(1, 4, 4);
         CHECK.same("none", house.sounds(), 0);
         for (int index = 0; index < 4; index++) {
             house.insert(0, 0, index, 60, 2, PLAIN);
         }
-        sameSounds(house, "not tied", 0, 500, 500, 500, 1000, 500, 1500, 500);
+        CHECK.sameSounds(house, "not tied", 0, 500, 500, 500, 1000, 500, 1500, 500);
         house.setTie(0, 0, 0, true);
         house.setTie(0, 0, 1, true);
-        sameSounds(house, "three tied", 0, 1500, 1500, 500);
+        CHECK.sameSounds(house, "three tied", 0, 1500, 1500, 500);
         house.setPitch(0, 0, 1, 61);
-        sameSounds(house, "of another pitch", 0, 500, 500, 500, 1000, 500, 1500, 500);
+        CHECK.sameSounds(house, "of another pitch", 0, 500, 500, 500, 1000, 500, 1500, 500);
         house.setPitch(0, 0, 1, 0);
-        sameSounds(house, "a rest between", 0, 500, 1000, 500, 1500, 500);
+        CHECK.sameSounds(house, "a rest between", 0, 500, 1000, 500, 1500, 500);
         house.remove(0, 0, 1);
-        sameSounds(house, "right behind then", 0, 1000, 1000, 500);
+        CHECK.sameSounds(house, "right behind then", 0, 1000, 1000, 500);
         house.setTie(0, 0, 2, true);
-        sameSounds(house, "none behind", 0, 1000, 1000, 500);
+        CHECK.sameSounds(house, "none behind", 0, 1000, 1000, 500);
     }
 
     private static void tiesOverRepeats() {
-        ScoreHouse house = withBars(4, 2, 4);
+        ScoreHouse house = Scores.withBars(4, 2, 4);
         for (int bar = 0; bar < 4; bar++) {
             house.insert(0, bar, 0, 60, 1, PLAIN);
             house.setTie(0, bar, 0, true);
         }
-        sameSounds(house, "all tied", 0, 4000);
+        CHECK.sameSounds(house, "all tied", 0, 4000);
         house.addRepeat(1, 2, 0);
-        sameSounds(house, "the bar behind is not played right behind", 0, 3000, 3000, 3000);
+        CHECK.sameSounds(house, "the bar behind is not played right behind", 0, 3000, 3000, 3000);
         house.dropRepeat(1);
         house.addRepeat(1, 2, 1);
-        sameSounds(house, "an ending is left out", 0, 3000, 3000, 1000, 4000, 1000);
+        CHECK.sameSounds(house, "an ending is left out", 0, 3000, 3000, 1000, 4000, 1000);
         house.dropRepeat(1);
         house.addRepeat(3, 3, 0);
-        sameSounds(house, "a bar is not tied to itself", 0, 4000, 4000, 1000);
+        CHECK.sameSounds(house, "a bar is not tied to itself", 0, 4000, 4000, 1000);
     }
 
     private static void tiesOverOtherBars() {
-        ScoreHouse house = withBars(3, 4, 4);
+        ScoreHouse house = Scores.withBars(3, 4, 4);
         house.insert(0, 0, 0, 60, 0, PLAIN);
         house.setTie(0, 0, 0, true);
         house.insert(0, 2, 0, 60, 0, PLAIN);
-        sameSounds(house, "an empty bar between", 0, 2000, 4000, 2000);
+        CHECK.sameSounds(house, "an empty bar between", 0, 2000, 4000, 2000);
         house.insert(0, 1, 0, 60, 1, PLAIN);
-        sameSounds(house, "tied to what is there", 0, 3000, 4000, 2000);
+        CHECK.sameSounds(house, "tied to what is there", 0, 3000, 4000, 2000);
         house.setTie(0, 1, 0, true);
         // The event behind is told by bars alone; the document asks nothing of what is left in a bar.
-        sameSounds(house, "out of a bar that is not full", 0, 6000);
+        CHECK.sameSounds(house, "out of a bar that is not full", 0, 6000);
         house.insert(0, 1, 1, 0, 1, PLAIN);
-        sameSounds(house, "a rest behind", 0, 3000, 4000, 2000);
+        CHECK.sameSounds(house, "a rest behind", 0, 3000, 4000, 2000);
     }
 
     private static void promise31OrderOfVoices() {
-        ScoreHouse house = withBars(1, 2, 4);
+        ScoreHouse house = Scores.withBars(1, 2, 4);
         house.insert(3, 0, 0, 63, 2, PLAIN);
         house.insert(3, 0, 1, 73, 2, PLAIN);
         house.insert(1, 0, 0, 61, 3, PLAIN);
@@ -210,7 +185,7 @@ public final class PlayingTest {
     }
 
     private static void promises32And33Times() {
-        ScoreHouse house = withBars(2, 2, 4);
+        ScoreHouse house = Scores.withBars(2, 2, 4);
         house.setTempo(0, 130);
         house.setTempo(1, 70);
         house.insert(2, 0, 0, 0, 5, TRIPLET);
@@ -221,7 +196,7 @@ public final class PlayingTest {
         house.setTie(2, 0, 2, true);
         house.setTie(2, 0, 3, true);
         // 2, 4, 6 and 18 ticks at 130 take 38, 76, 115 and 346; the bar 923; 8 ticks at 70 take 285.
-        sameSounds(house, "rounded down by ticks of the place", 38, 38, 76, 923 + 285 - 76);
+        CHECK.sameSounds(house, "rounded down by ticks of the place", 38, 38, 76, 923 + 285 - 76);
         CHECK.notThere("start of sound 2", () -> house.soundStart(2));
         CHECK.notThere("start of sound -1", () -> house.soundStart(-1));
         CHECK.notThere("time of sound 2", () -> house.soundTime(2));
@@ -232,7 +207,7 @@ public final class PlayingTest {
     }
 
     private static void promise34SoundPitch() {
-        ScoreHouse house = withBars(1, 4, 4);
+        ScoreHouse house = Scores.withBars(1, 4, 4);
         house.insert(0, 0, 0, 60, 0, PLAIN);
         house.transpose(0, -7);
         CHECK.same("not transposed", house.soundPitch(0), 60);
@@ -243,7 +218,7 @@ public final class PlayingTest {
     }
 
     private static void promise35Loudness() {
-        ScoreHouse house = withBars(3, 2, 4);
+        ScoreHouse house = Scores.withBars(3, 2, 4);
         for (int bar = 0; bar < 3; bar++) {
             house.insert(0, bar, 0, 60, 2, PLAIN);
             house.insert(0, bar, 1, 61, 2, PLAIN);

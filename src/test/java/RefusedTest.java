@@ -384,7 +384,8 @@ public final class RefusedTest {
         for (int endings : new int[] {-1, 3, 4}) {
             SCORE.badArgument("addRepeat in common, endings " + endings, house -> house.addRepeat(1, 3, endings));
         }
-        int[][] common = {{1, 3}, {0, 1}, {3, 4}, {2, 2}, {1, 1}, {3, 3}, {0, 4}, {0, 7}, {5, 5}, {4, 5}, {5, 6}, {4, 7}};
+        int[][] common = {{1, 3}, {0, 1}, {3, 4}, {2, 2}, {1, 1}, {3, 3},
+                {0, 4}, {0, 7}, {5, 5}, {4, 5}, {5, 6}, {4, 7}};
         for (int[] bars : common) {
             SCORE.badState("addRepeat in common, " + bars[0] + " to " + bars[1],
                     house -> house.addRepeat(bars[0], bars[1], 0));
